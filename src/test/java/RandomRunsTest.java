@@ -1,0 +1,197 @@
+import java.util.Arrays;
+import java.util.Random;
+
+/** Runs of calls, always the same random ones, with the answers of Model. */
+public final class RandomRunsTest {
+    private static final int[] ODD = {Integer.MIN_VALUE, -1000, -3, -2, -1, 0, 1, 2, 5, 6, 8, 12, 16, 23, 24, 39, 40, 41, 60,
+        100, 101, 200, 201, 256, 500, 501, 1000, 1001, 5000, 5001, 65535, 65536, 99999999, 100000000, Integer.MAX_VALUE};
+    private static final Due d = new Due();
+
+    private final Random random;
+    private final SpokenMenus x = new SpokenMenus();
+    private final Model m = new Model();
+    /** How many places next ones are drawn from: few make loops, many make gaps. */
+    private final int span;
+    private final int most;
+    private final int patience;
+
+    private RandomRunsTest(long seed) {
+        random = new Random(seed);
+        span = 1 + random.nextInt(random.nextInt(4) == 0 ? 40 : 9);
+        most = random.nextBoolean() ? 4 : 200;
+        patience = new int[] {20, 200, 5000}[random.nextInt(3)];
+    }
+
+    public static void main(String[] args) {
+        for (int run = 0; run < 3000; run++) {
+            new RandomRunsTest(run).go("run " + run, 300);
+        }
+        for (int run = 0; run < 300; run++) {
+            new RandomRunsTest(run).goPlans("plans " + run, 8);
+        }
+        d.end();
+    }
+
+    private void go(String name, int calls) {
+        for (int c = 0; c < calls; c++) {
+            int method = c < 60 ? pick(0, 0, 0, 1, 2, 3, 4, 5, 1, 1, 1) : random.nextInt(26);
+            if (method == 23 && random.nextInt(4) != 0) {
+                continue;
+            }
+            step(name + ", call " + c, method);
+        }
+    }
+
+    private void goPlans(String name, int calls) {
+        for (int c = 0; c < calls; c++) {
+            for (int k = 0; k < 8; k++) {
+                step(name, 22);
+            }
+            step(name, 23);
+            for (int set = 0; set < 256; set += 1 + random.nextInt(3)) {
+                for (int j = 0; j < 7; j++) {
+                    d.due(name + ", planned " + set + " " + j, x.planned(set, j), m.planned(set, j));
+                }
+            }
+        }
+    }
+
+    private int pick(int... of) {
+        return of[random.nextInt(of.length)];
+    }
+
+    private int from(int least, int greatest) {
+        if (random.nextInt(90) == 0) {
+            return pick(ODD);
+        }
+        return least + random.nextInt(greatest - least + 1);
+    }
+
+    private int ticks() {
+        return from(1, most);
+    }
+
+    private int next() {
+        return random.nextInt(8) == 0 ? from(-1, 39) : from(-1, span);
+    }
+
+    private int spot() {
+        return from(0, Math.max(0, Math.min(span, m.count(0)) - 1));
+    }
+
+    private int wishes() {
+        return random.nextInt(3) == 0 ? from(0, 65535) : 1 << random.nextInt(5) | 1 << random.nextInt(5);
+    }
+
+    private int wishOne() {
+        return from(0, random.nextInt(4) == 0 ? 15 : 5);
+    }
+
+    private int number() {
+        return pick(0, 31, 32, 130, 1130, 10000007, from(0, 99), from(0, 99999999));
+    }
+
+    private int hour() {
+        return from(0, 23);
+    }
+
+    private void step(String name, int method) {
+        int[] a = arguments(method);
+        d.due(name + ", " + method + Arrays.toString(a), onClass(method, a), onModel(method, a));
+    }
+
+    private int[] arguments(int method) {
+        switch (method) {
+            case 0: return new int[] {from(1, Math.min(100, most)), from(1, 3), next()};
+            case 1: return new int[] {spot(), ticks(), from(0, 11), wishes(), next()};
+            case 2: return new int[] {from(0, most), wishes()};
+            case 3: return new int[] {ticks(), wishes(), next()};
+            case 4: return new int[] {hour(), hour(), next(), next()};
+            case 5: return new int[] {ticks(), from(1, 8), from(1, 3), next(), next()};
+            case 6:
+                int what = from(0, 2);
+                return new int[] {spot(), from(0, 3), what, what == 0 ? ticks() : what == 1 ? wishes() : next()};
+            case 7: return new int[] {spot(), from(0, 3), from(0, 3)};
+            case 8: return new int[] {spot(), from(0, 5)};
+            case 9: return new int[] {spot(), from(0, 3), from(0, 3)};
+            case 10: return new int[] {wishOne(), number(), from(1, patience), hour(), from(0, 1)};
+            case 11: return new int[] {from(0, 3)};
+            case 12: return new int[] {from(0, pick(5, 62))};
+            case 13: return new int[] {from(0, pick(5, 62))};
+            case 14: return new int[] {spot(), wishOne(), number(), hour()};
+            case 15: return new int[] {hour(), from(-1, 5)};
+            case 16: return new int[] {from(1, pick(3, 1000)), wishOne(), number(), from(1, patience), hour(), from(0, 1)};
+            case 17: return new int[] {random.nextInt(6)};
+            case 18: return new int[] {from(0, 4)};
+            case 19: return new int[] {spot()};
+            case 20: return new int[] {spot(), from(-2, 6)};
+            case 21: return new int[] {spot()};
+            case 22: return new int[] {from(0, 7), from(1, pick(3, 200)), from(0, pick(2, 1000))};
+            case 23: return new int[] {from(1, random.nextInt(20) == 0 ? 7 : 5), from(1, pick(3, 30, 200)), from(2, 6)};
+            case 24: return new int[] {from(1, pick(7, 31, 255)), from(0, 5)};
+            default: return new int[] {from(0, 2)};
+        }
+    }
+
+    private int onClass(int method, int[] a) {
+        switch (method) {
+            case 0: return x.menu(a[0], a[1], a[2]);
+            case 1: return x.line(a[0], a[1], a[2], a[3], a[4]);
+            case 2: return x.desk(a[0], a[1]);
+            case 3: return x.leaf(a[0], a[1], a[2]);
+            case 4: return x.clock(a[0], a[1], a[2], a[3]);
+            case 5: return x.asked(a[0], a[1], a[2], a[3], a[4]);
+            case 6: return x.change(a[0], a[1], a[2], a[3]);
+            case 7: return x.swap(a[0], a[1], a[2]);
+            case 8: return x.place(a[0], a[1]);
+            case 9: return x.lineOf(a[0], a[1], a[2]);
+            case 10: return x.ring(a[0], a[1], a[2], a[3], a[4]);
+            case 11: return x.call(a[0]);
+            case 12: return x.came(a[0]);
+            case 13: return x.pressed(a[0]);
+            case 14: return x.fewest(a[0], a[1], a[2], a[3]);
+            case 15: return x.trap(a[0], a[1]);
+            case 16: return x.group(a[0], a[1], a[2], a[3], a[4], a[5]);
+            case 17: return a[0] == 0 ? x.noGroups() : 0;
+            case 18: return x.sum(a[0]);
+            case 19: return x.hung(a[0]);
+            case 20: return x.order(a[0], a[1]);
+            case 21: return x.arrange(a[0]);
+            case 22: return x.wish(a[0], a[1], a[2]);
+            case 23: return x.plan(a[0], a[1], a[2]);
+            case 24: return x.planned(a[0], a[1]);
+            default: return x.count(a[0]);
+        }
+    }
+
+    private int onModel(int method, int[] a) {
+        switch (method) {
+            case 0: return m.menu(a[0], a[1], a[2]);
+            case 1: return m.line(a[0], a[1], a[2], a[3], a[4]);
+            case 2: return m.desk(a[0], a[1]);
+            case 3: return m.leaf(a[0], a[1], a[2]);
+            case 4: return m.clock(a[0], a[1], a[2], a[3]);
+            case 5: return m.asked(a[0], a[1], a[2], a[3], a[4]);
+            case 6: return m.change(a[0], a[1], a[2], a[3]);
+            case 7: return m.swap(a[0], a[1], a[2]);
+            case 8: return m.place(a[0], a[1]);
+            case 9: return m.lineOf(a[0], a[1], a[2]);
+            case 10: return m.ring(a[0], a[1], a[2], a[3], a[4]);
+            case 11: return m.call(a[0]);
+            case 12: return m.came(a[0]);
+            case 13: return m.pressed(a[0]);
+            case 14: return m.fewest(a[0], a[1], a[2], a[3]);
+            case 15: return m.trap(a[0], a[1]);
+            case 16: return m.group(a[0], a[1], a[2], a[3], a[4], a[5]);
+            case 17: return a[0] == 0 ? m.noGroups() : 0;
+            case 18: return m.sum(a[0]);
+            case 19: return m.hung(a[0]);
+            case 20: return m.order(a[0], a[1]);
+            case 21: return m.arrange(a[0]);
+            case 22: return m.wish(a[0], a[1], a[2]);
+            case 23: return m.plan(a[0], a[1], a[2]);
+            case 24: return m.planned(a[0], a[1]);
+            default: return m.count(a[0]);
+        }
+    }
+}
