@@ -446,7 +446,7 @@ public final class SpokenMenus {
             if (caller.knows) {
                 continue;
             }
-            trial.follow(house, ways, caller);
+            trial.goThrough(house, null, caller);
             if (trial.hasSeen(place)) {
                 ordering.addCallers(menu.firstLineFor(caller.wish), groups.many[g]);
             }
@@ -669,9 +669,9 @@ public final class SpokenMenus {
             return place >= 0 && place < MOST_PLACES ? ticks[place] : NO_WAY;
         }
 
-        /** The LINE of the best way at a MENU; -1: it goes to THEN. */
-        int bestLine(Place menu) {
-            int least = leastAtMenu(menu);
+        /** The LINE of the best way at a MENU, the PLACE of that number; -1: it goes to THEN. */
+        int bestLine(Place menu, int number) {
+            int least = ticksFrom(number);
             for (int i = 0; i < menu.size; i++) {
                 if (1 + ticksFrom(menu.lines[i].next) == least) {
                     return i;
@@ -719,12 +719,17 @@ public final class SpokenMenus {
         private int clocksOnEnd = 0;
 
         void follow(House house, Ways ways, Caller caller) {
-            begin();
-            boolean knows = false;
+            boolean knowsWay = false;
             if (caller.knows) {
                 ways.measure(house, caller);
-                knows = ways.ticksFrom(0) < NO_WAY;
+                knowsWay = ways.ticksFrom(0) < NO_WAY;
             }
+            goThrough(house, knowsWay ? ways : null, caller);
+        }
+
+        /** By ways that are measured; without them (null) as who does not know. */
+        void goThrough(House house, Ways ways, Caller caller) {
+            begin();
             int next = 0;
             for (int step = 0; step < MOST_STEPS && end == GOING; step++) {
                 Place place = house.at(next);
@@ -732,7 +737,7 @@ public final class SpokenMenus {
                     end = ENDED;
                 } else {
                     come(next, place.kind);
-                    next = pass(place, caller, knows ? ways : null);
+                    next = pass(place, ways, caller);
                 }
             }
         }
@@ -767,11 +772,11 @@ public final class SpokenMenus {
             }
         }
 
-        /** The next PLACE, if the call does not end here. Without ways: who does not know. */
-        private int pass(Place place, Caller caller, Ways ways) {
+        /** The next PLACE, if the call does not end here. */
+        private int pass(Place place, Ways ways, Caller caller) {
             switch (place.kind) {
                 case MENU:
-                    return passMenu(place, caller, ways);
+                    return passMenu(place, ways, caller);
                 case DESK:
                     spend(place.ticks, caller);
                     finish(place.serves(caller.wish) ? SERVED : ENDED);
@@ -790,8 +795,8 @@ public final class SpokenMenus {
             }
         }
 
-        private int passMenu(Place menu, Caller caller, Ways ways) {
-            int i = ways != null ? ways.bestLine(menu) : menu.firstLineFor(caller.wish);
+        private int passMenu(Place menu, Ways ways, Caller caller) {
+            int i = ways != null ? ways.bestLine(menu, last) : menu.firstLineFor(caller.wish);
             if (i < 0 || i >= menu.size) {
                 spend(menu.ticksOfHearingAll(), caller);
                 return menu.next;

@@ -27,6 +27,8 @@ public final class CallsTest {
         kept();
         fewest();
         traps();
+        trapsAtAsked();
+        longHouses();
         d.end();
     }
 
@@ -138,6 +140,11 @@ public final class CallsTest {
         d.dueRow("one clock", rung(x, 0, 0, 1, 0, 0), LOST, 0, 0, 41, 0);
         d.due("the 41st coming", x.came(40), 0);
         d.due("no 42nd", x.came(41), NONE);
+        d.dueRow("a call behind it", rung(x, 0, 0, 1, 0, 0), LOST, 0, 0, 41, 0);
+        SpokenMenus w = new SpokenMenus();
+        w.leaf(1, 0, 1);
+        w.clock(0, 0, 1, -1);
+        d.dueRow("a leaf, then one clock", rung(w, 0, 0, 1, 0, 0), LOST, 1, 1, 42, 0);
         SpokenMenus y = new SpokenMenus();
         for (int p = 0; p < 39; p++) {
             y.clock(0, 0, p + 1, -1);
@@ -287,6 +294,17 @@ public final class CallsTest {
         d.dueRow("there is none: as who does not know", rung(x, 0, 1, 1000, 0, 1), ENDED, 7 + 26 + 1, 2, 3, 1);
         d.dueRow("there is one", rung(x, 1, 1, 1000, 0, 1), SERVED, 1 + 6 + 1, 2, 3, 1);
         d.dueRow("there is one, beyond the patience", rung(x, 1, 1, 7, 0, 1), HUNG_UP, 7, 2, 3, 1);
+        SpokenMenus y = new SpokenMenus();
+        y.menu(2, 1, -1);
+        y.line(0, 6, 3, 0, 2);
+        y.leaf(1, 0, -1);
+        y.desk(1, 1);
+        d.dueRow("one from place 0, none from place 1", rung(y, 0, 0, 100, 0, 1), SERVED, 2, 2, 2, 1);
+        SpokenMenus z = new SpokenMenus();
+        z.menu(2, 1, -1);
+        z.line(0, 6, 3, 1, -1);
+        z.desk(1, 1);
+        d.dueRow("none from place 0, one from place 1", rung(z, 0, 0, 100, 0, 1), ENDED, 7, 0, 1, 1);
     }
 
     private static void latestCall() {
@@ -409,5 +427,55 @@ public final class CallsTest {
         d.due("the clock is left", x.trap(17, 0), 2);
         d.due("and asked", x.trap(17, 1), 4);
         d.due("and its leaf", x.trap(17, 2), 5);
+    }
+
+    /** The traps at hour 0 of a house in which place 0 asks. */
+    private static int[] trapsOfAsked(int right, int wrong) {
+        SpokenMenus x = new SpokenMenus();
+        x.asked(1, 1, 1, right, wrong);
+        x.desk(0, 0);
+        x.leaf(1, 0, -1);
+        int[] row = new int[Math.max(0, x.trap(0, -1))];
+        for (int i = 0; i < row.length; i++) {
+            row[i] = x.trap(0, i);
+        }
+        return row;
+    }
+
+    private static void trapsAtAsked() {
+        d.dueRow("right leads to a desk", trapsOfAsked(1, 2), 2);
+        d.dueRow("wrong leads to a desk", trapsOfAsked(2, 1), 2);
+        d.dueRow("both do", trapsOfAsked(1, 1));
+        d.dueRow("neither does, and none leads back", trapsOfAsked(2, -1), 0, 2);
+        d.dueRow("neither is there", trapsOfAsked(30, -1), 0);
+    }
+
+    /** Chains of all 40 places, by numbers upward and downward. */
+    private static void longHouses() {
+        SpokenMenus up = new SpokenMenus();
+        SpokenMenus down = new SpokenMenus();
+        down.leaf(1, 0, 39);
+        down.desk(1, 1);
+        for (int p = 0; p < 39; p++) {
+            up.leaf(1, 0, p + 1);
+        }
+        for (int p = 2; p < 40; p++) {
+            down.leaf(1, 0, p - 1);
+        }
+        up.desk(1, 1);
+        d.due("the way upward", up.fewest(0, 0, 0, 0), 40);
+        d.due("the way downward", down.fewest(0, 0, 0, 0), 40);
+        d.due("no trap upward", up.trap(0, -1), 0);
+        d.due("no trap downward", down.trap(0, -1), 0);
+        d.dueRow("a call upward", rung(up, 0, 0, 40, 0, 1), SERVED, 40, 39, 40, 0);
+        d.dueRow("a call downward", rung(down, 0, 0, 40, 0, 0), SERVED, 40, 1, 40, 0);
+        SpokenMenus end = new SpokenMenus();
+        end.leaf(1, 0, 39);
+        end.leaf(1, 0, -1);
+        for (int p = 2; p < 40; p++) {
+            end.leaf(1, 0, p - 1);
+        }
+        d.due("all are traps", end.trap(0, -1), 40);
+        d.due("the last trap", end.trap(0, 39), 39);
     }
 }

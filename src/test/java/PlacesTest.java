@@ -92,7 +92,8 @@ public final class PlacesTest {
         d.due("no line of BAD ones", x.place(0, 2), 0);
         d.due("least line", x.line(0, 1, 0, 0, -1), 1);
         d.due("most line", x.line(0, 200, 11, 65535, 39), 2);
-        d.due("a key again", x.line(0, 1, 11, 0, -1), BAD);
+        d.due("the first key again", x.line(0, 1, 0, 0, -1), BAD);
+        d.due("the last key again", x.line(0, 1, 11, 0, -1), BAD);
         for (int key = 1; key <= 4; key++) {
             d.due("key " + key, x.line(0, 5, key, 1, 1), key + 2);
         }

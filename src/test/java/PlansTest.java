@@ -101,7 +101,8 @@ public final class PlansTest {
         d.due("ticks 1 of a wish that is not told", x.plan(4, 200, 6), 1200 + 200 * 2 + 200);
         x = new SpokenMenus();
         x.wish(1, 1, 5);
-        d.due("a wish that is not told ahead of one costs its tick", x.plan(2, 200, 2), 5);
+        d.due("a wish that is not told is not free ahead of one", x.plan(2, 200, 2), 5);
+        d.dueRow("so it is last", linesOf(x, 3), 2, 1);
     }
 
     private static void likePlans() {
