@@ -1,3 +1,5 @@
+import java.util.function.IntUnaryOperator;
+
 /** Compares answers with those that are due, and ends a test. */
 final class Due {
     private int wrong = 0;
@@ -20,6 +22,18 @@ final class Due {
 
     void holds(String what, boolean does) {
         due(what, does ? 1 : 0, 1);
+    }
+
+    /**
+     * Of one number that a call takes: the least and the greatest are taken,
+     * those just outside and the outermost are refused. Each call is on a new object.
+     */
+    void bounds(String what, int least, int greatest, int taken, int refused, IntUnaryOperator call) {
+        due(what + " " + least + ", the least", call.applyAsInt(least), taken);
+        due(what + " " + greatest + ", the greatest", call.applyAsInt(greatest), taken);
+        for (int v : new int[] {least - 1, greatest + 1, Integer.MIN_VALUE, Integer.MAX_VALUE}) {
+            due(what + " " + v + ", outside", call.applyAsInt(v), refused);
+        }
     }
 
     void end() {

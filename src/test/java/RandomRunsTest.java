@@ -1,8 +1,8 @@
-import java.util.Arrays;
 import java.util.Random;
 
 /** Runs of calls, always the same random ones, with the answers of Model. */
 public final class RandomRunsTest {
+    private static final int NO_GROUPS = 17, WISH = 22, PLAN = 23;
     private static final int[] ODD = {Integer.MIN_VALUE, -1000, -3, -2, -1, 0, 1, 2, 5, 6, 8, 12, 16, 23, 24, 39, 40, 41, 60,
         100, 101, 200, 201, 256, 500, 501, 1000, 1001, 5000, 5001, 65535, 65536, 99999999, 100000000, Integer.MAX_VALUE};
     private static final Due d = new Due();
@@ -26,8 +26,8 @@ public final class RandomRunsTest {
         for (int run = 0; run < 3000; run++) {
             new RandomRunsTest(run).go("run " + run, 300);
         }
-        for (int run = 0; run < 300; run++) {
-            new RandomRunsTest(run).goPlans("plans " + run, 8);
+        for (int run = 0; run < 2400; run++) {
+            new RandomRunsTest(run).goPlan("plan " + run);
         }
         d.end();
     }
@@ -35,23 +35,23 @@ public final class RandomRunsTest {
     private void go(String name, int calls) {
         for (int c = 0; c < calls; c++) {
             int method = c < 60 ? pick(0, 0, 0, 1, 2, 3, 4, 5, 1, 1, 1) : random.nextInt(26);
-            if (method == 23 && random.nextInt(4) != 0) {
+            if (method == PLAN && random.nextInt(4) != 0 || method == NO_GROUPS && random.nextInt(6) != 0) {
                 continue;
             }
             step(name + ", call " + c, method);
         }
     }
 
-    private void goPlans(String name, int calls) {
-        for (int c = 0; c < calls; c++) {
-            for (int k = 0; k < 8; k++) {
-                step(name, 22);
-            }
-            step(name, 23);
-            for (int set = 0; set < 256; set += 1 + random.nextInt(3)) {
-                for (int j = 0; j < 7; j++) {
-                    d.due(name + ", planned " + set + " " + j, x.planned(set, j), m.planned(set, j));
-                }
+    /** One plan, so that what is asked of it stays below 512 calls. */
+    private void goPlan(String name) {
+        for (int k = 0; k < 8; k++) {
+            step(name, WISH);
+        }
+        step(name, PLAN);
+        for (int set = random.nextInt(4); set < 256; set += 1 + random.nextInt(9)) {
+            for (int j = 0; j < 7; j++) {
+                Call call = Call.of("planned", set, j);
+                d.due(name + ", " + call, call.on(x), call.on(m));
             }
         }
     }
@@ -96,8 +96,8 @@ public final class RandomRunsTest {
     }
 
     private void step(String name, int method) {
-        int[] a = arguments(method);
-        d.due(name + ", " + method + Arrays.toString(a), onClass(method, a), onModel(method, a));
+        Call call = new Call(Call.NAMES[method], arguments(method));
+        d.due(name + ", " + call, call.on(x), call.on(m));
     }
 
     private int[] arguments(int method) {
@@ -121,7 +121,7 @@ public final class RandomRunsTest {
             case 14: return new int[] {spot(), wishOne(), number(), hour()};
             case 15: return new int[] {hour(), from(-1, 5)};
             case 16: return new int[] {from(1, pick(3, 1000)), wishOne(), number(), from(1, patience), hour(), from(0, 1)};
-            case 17: return new int[] {random.nextInt(6)};
+            case 17: return new int[0];
             case 18: return new int[] {from(0, 4)};
             case 19: return new int[] {spot()};
             case 20: return new int[] {spot(), from(-2, 6)};
@@ -130,68 +130,6 @@ public final class RandomRunsTest {
             case 23: return new int[] {from(1, random.nextInt(20) == 0 ? 7 : 5), from(1, pick(3, 30, 200)), from(2, 6)};
             case 24: return new int[] {from(1, pick(7, 31, 255)), from(0, 5)};
             default: return new int[] {from(0, 2)};
-        }
-    }
-
-    private int onClass(int method, int[] a) {
-        switch (method) {
-            case 0: return x.menu(a[0], a[1], a[2]);
-            case 1: return x.line(a[0], a[1], a[2], a[3], a[4]);
-            case 2: return x.desk(a[0], a[1]);
-            case 3: return x.leaf(a[0], a[1], a[2]);
-            case 4: return x.clock(a[0], a[1], a[2], a[3]);
-            case 5: return x.asked(a[0], a[1], a[2], a[3], a[4]);
-            case 6: return x.change(a[0], a[1], a[2], a[3]);
-            case 7: return x.swap(a[0], a[1], a[2]);
-            case 8: return x.place(a[0], a[1]);
-            case 9: return x.lineOf(a[0], a[1], a[2]);
-            case 10: return x.ring(a[0], a[1], a[2], a[3], a[4]);
-            case 11: return x.call(a[0]);
-            case 12: return x.came(a[0]);
-            case 13: return x.pressed(a[0]);
-            case 14: return x.fewest(a[0], a[1], a[2], a[3]);
-            case 15: return x.trap(a[0], a[1]);
-            case 16: return x.group(a[0], a[1], a[2], a[3], a[4], a[5]);
-            case 17: return a[0] == 0 ? x.noGroups() : 0;
-            case 18: return x.sum(a[0]);
-            case 19: return x.hung(a[0]);
-            case 20: return x.order(a[0], a[1]);
-            case 21: return x.arrange(a[0]);
-            case 22: return x.wish(a[0], a[1], a[2]);
-            case 23: return x.plan(a[0], a[1], a[2]);
-            case 24: return x.planned(a[0], a[1]);
-            default: return x.count(a[0]);
-        }
-    }
-
-    private int onModel(int method, int[] a) {
-        switch (method) {
-            case 0: return m.menu(a[0], a[1], a[2]);
-            case 1: return m.line(a[0], a[1], a[2], a[3], a[4]);
-            case 2: return m.desk(a[0], a[1]);
-            case 3: return m.leaf(a[0], a[1], a[2]);
-            case 4: return m.clock(a[0], a[1], a[2], a[3]);
-            case 5: return m.asked(a[0], a[1], a[2], a[3], a[4]);
-            case 6: return m.change(a[0], a[1], a[2], a[3]);
-            case 7: return m.swap(a[0], a[1], a[2]);
-            case 8: return m.place(a[0], a[1]);
-            case 9: return m.lineOf(a[0], a[1], a[2]);
-            case 10: return m.ring(a[0], a[1], a[2], a[3], a[4]);
-            case 11: return m.call(a[0]);
-            case 12: return m.came(a[0]);
-            case 13: return m.pressed(a[0]);
-            case 14: return m.fewest(a[0], a[1], a[2], a[3]);
-            case 15: return m.trap(a[0], a[1]);
-            case 16: return m.group(a[0], a[1], a[2], a[3], a[4], a[5]);
-            case 17: return a[0] == 0 ? m.noGroups() : 0;
-            case 18: return m.sum(a[0]);
-            case 19: return m.hung(a[0]);
-            case 20: return m.order(a[0], a[1]);
-            case 21: return m.arrange(a[0]);
-            case 22: return m.wish(a[0], a[1], a[2]);
-            case 23: return m.plan(a[0], a[1], a[2]);
-            case 24: return m.planned(a[0], a[1]);
-            default: return m.count(a[0]);
         }
     }
 }
