@@ -50,23 +50,9 @@ public final class CallsBoundsTest {
         d.end();
     }
 
-    private static SpokenMenus house(Call... calls) {
-        SpokenMenus x = new SpokenMenus();
-        for (Call call : calls) {
-            call.on(x);
-        }
-        return x;
-    }
-
     /** A desk at once, for all wishes. */
     private static SpokenMenus open() {
-        return house(Call.of("desk", 0, 65535));
-    }
-
-    /** How it ends, then call(0) to call(3). */
-    private static int[] rung(SpokenMenus x, int wish, int number, int patience, int hour, int knows) {
-        int end = x.ring(wish, number, patience, hour, knows);
-        return new int[] {end, x.call(0), x.call(1), x.call(2), x.call(3)};
+        return Ask.house(Call.of("desk", 0, 65535));
     }
 
     /** So many clocks on end, each to the one behind it, the last one to a next place. */
@@ -80,7 +66,7 @@ public final class CallsBoundsTest {
 
     /** A menu and a leaf in turn, each of one tick and a key more: came 0, 1, 0, 1, .. */
     private static SpokenMenus roundabout() {
-        return house(Call.of("menu", 1, 1, -1), Call.of("line", 0, 1, 6, 1, 1), Call.of("leaf", 1, 0, 0));
+        return Ask.house(Call.of("menu", 1, 1, -1), Call.of("line", 0, 1, 6, 1, 1), Call.of("leaf", 1, 0, 0));
     }
 
     /** "a WISH, a NUMBER (0 to 99999999), a PATIENCE (1 to 5000 ticks), an HOUR, and KNOWS or does not"; "BAD: also knows not 0, 1". */
@@ -109,19 +95,19 @@ public final class CallsBoundsTest {
 
     /** "a call begins at PLACE 0". */
     private static void beginsAtPlace0() {
-        SpokenMenus x = house(Call.of("leaf", 1, 0, 1), Call.of("desk", 1, 1));
+        SpokenMenus x = Ask.house(Call.of("leaf", 1, 0, 1), Call.of("desk", 1, 1));
         x.ring(0, 0, 100, 0, 0);
         d.due("came first to", x.came(0), 0);
-        SpokenMenus y = house(Call.of("desk", 1, 1), Call.of("desk", 2, 1));
-        d.dueRow("the first place, not the last", rung(y, 0, 0, 100, 0, 0), SERVED, 1, 0, 1, 0);
+        SpokenMenus y = Ask.house(Call.of("desk", 1, 1), Call.of("desk", 2, 1));
+        d.dueRow("the first place, not the last", Ask.rung(y, 0, 0, 100, 0, 0), SERVED, 1, 0, 1, 0);
     }
 
     /** "WISHES of which it speaks": each of 0 to 15 is a bit of its own. */
     private static void speaksOfEachWish() {
         for (int wish = 0; wish <= 15; wish++) {
-            SpokenMenus x = house(Call.of("menu", 1, 1, -1), Call.of("line", 0, 5, 1, 65535 - (1 << wish), -1),
+            SpokenMenus x = Ask.house(Call.of("menu", 1, 1, -1), Call.of("line", 0, 5, 1, 65535 - (1 << wish), -1),
                 Call.of("line", 0, 5, 2, 1 << wish, -1));
-            d.dueRow("wish " + wish, rung(x, wish, 0, 100, 0, 0), ENDED, 11, 0, 1, 1);
+            d.dueRow("wish " + wish, Ask.rung(x, wish, 0, 100, 0, 0), ENDED, 11, 0, 1, 1);
             d.due("the second key", x.pressed(0), 2);
             x.ring((wish + 1) % 16, 0, 100, 0, 0);
             d.due("another wish: the first key", x.pressed(0), 1);
@@ -131,10 +117,10 @@ public final class CallsBoundsTest {
     /** "it hears all, then the WAIT; that TIMES times; then it is at THEN." */
     private static void times() {
         for (int times = 1; times <= 3; times++) {
-            SpokenMenus x = house(Call.of("menu", 7, times, 1), Call.of("line", 0, 5, 1, 1, -1), Call.of("desk", 1, 2));
-            d.dueRow("heard " + times, rung(x, 1, 0, 100, 0, 0), SERVED, times * 12 + 1, 1, 2, 0);
-            SpokenMenus y = house(Call.of("menu", 7, times, 1), Call.of("desk", 1, 2));
-            d.dueRow("without lines " + times, rung(y, 1, 0, 100, 0, 0), SERVED, times * 7 + 1, 1, 2, 0);
+            SpokenMenus x = Ask.house(Call.of("menu", 7, times, 1), Call.of("line", 0, 5, 1, 1, -1), Call.of("desk", 1, 2));
+            d.dueRow("heard " + times, Ask.rung(x, 1, 0, 100, 0, 0), SERVED, times * 12 + 1, 1, 2, 0);
+            SpokenMenus y = Ask.house(Call.of("menu", 7, times, 1), Call.of("desk", 1, 2));
+            d.dueRow("without lines " + times, Ask.rung(y, 1, 0, 100, 0, 0), SERVED, times * 7 + 1, 1, 2, 0);
         }
     }
 
@@ -142,7 +128,7 @@ public final class CallsBoundsTest {
     private static void clockHours() {
         for (int from = 0; from <= 23; from++) {
             for (int to = 0; to <= 23; to++) {
-                SpokenMenus x = house(Call.of("clock", from, to, 1, 2), Call.of("desk", 0, 1), Call.of("desk", 0, 1));
+                SpokenMenus x = Ask.house(Call.of("clock", from, to, 1, 2), Call.of("desk", 0, 1), Call.of("desk", 0, 1));
                 boolean[] open = new boolean[24];
                 int hour = from;
                 do {
@@ -159,14 +145,14 @@ public final class CallsBoundsTest {
 
     /** "in an HOUR 0 to 23 that does not change": however many ticks go by. */
     private static void hourDoesNotChange() {
-        SpokenMenus x = house(Call.of("clock", 23, 0, 1, -1), Call.of("leaf", 200, 0, 2), Call.of("clock", 23, 0, 3, -1),
+        SpokenMenus x = Ask.house(Call.of("clock", 23, 0, 1, -1), Call.of("leaf", 200, 0, 2), Call.of("clock", 23, 0, 3, -1),
             Call.of("leaf", 200, 0, 0));
-        d.dueRow("hour 23 all the time", rung(x, 0, 0, 5000, 23, 0), HUNG_UP, 5000, 3, 52, 0);
-        d.dueRow("hour 22", rung(x, 0, 0, 5000, 22, 0), ENDED, 0, 0, 1, 0);
+        d.dueRow("hour 23 all the time", Ask.rung(x, 0, 0, 5000, 23, 0), HUNG_UP, 5000, 3, 52, 0);
+        d.dueRow("hour 22", Ask.rung(x, 0, 0, 5000, 22, 0), ENDED, 0, 0, 1, 0);
     }
 
     private static boolean right(int figures, int number) {
-        SpokenMenus x = house(Call.of("asked", 1, figures, 1, 1, 2), Call.of("desk", 0, 1), Call.of("desk", 0, 1));
+        SpokenMenus x = Ask.house(Call.of("asked", 1, figures, 1, 1, 2), Call.of("desk", 0, 1), Call.of("desk", 0, 1));
         x.ring(0, number, 5000, 0, 0);
         return x.call(1) == 1;
     }
@@ -223,154 +209,162 @@ public final class CallsBoundsTest {
     /** "RIGHT: it is at that next PLACE; else again, TRIES in all, then at the other one." */
     private static void tries() {
         for (int tries = 1; tries <= 3; tries++) {
-            SpokenMenus x = house(Call.of("asked", 10, 4, tries, 1, 2), Call.of("desk", 0, 1), Call.of("desk", 0, 1));
-            d.dueRow("right, of " + tries, rung(x, 0, 31, 5000, 0, 0), SERVED, 14, 1, 2, 0);
-            d.dueRow("wrong, of " + tries, rung(x, 0, 32, 5000, 0, 0), SERVED, 14 * tries, 2, 2, 0);
-            d.dueRow("right, who knows, of " + tries, rung(x, 0, 31, 5000, 0, 1), SERVED, 4, 1, 2, 0);
-            d.dueRow("wrong, who knows, of " + tries, rung(x, 0, 32, 5000, 0, 1), SERVED, 4 * tries, 2, 2, 0);
+            SpokenMenus x = Ask.house(Call.of("asked", 10, 4, tries, 1, 2), Call.of("desk", 0, 1), Call.of("desk", 0, 1));
+            d.dueRow("right, of " + tries, Ask.rung(x, 0, 31, 5000, 0, 0), SERVED, 14, 1, 2, 0);
+            d.dueRow("wrong, of " + tries, Ask.rung(x, 0, 32, 5000, 0, 0), SERVED, 14 * tries, 2, 2, 0);
+            d.dueRow("right, who knows, of " + tries, Ask.rung(x, 0, 31, 5000, 0, 1), SERVED, 4, 1, 2, 0);
+            d.dueRow("wrong, who knows, of " + tries, Ask.rung(x, 0, 32, 5000, 0, 1), SERVED, 4 * tries, 2, 2, 0);
         }
     }
 
     /** "HUNG UP, at the PLACE at which its ticks are more than its PATIENCE (its ticks are PATIENCE then)"; "HUNG UP ahead of SERVED, ENDED". */
     private static void patienceOfEachKind() {
-        SpokenMenus desk = house(Call.of("desk", 10, 1));
-        d.dueRow("desk: as many", rung(desk, 0, 0, 10, 0, 0), SERVED, 10, 0, 1, 0);
-        d.dueRow("desk: one more", rung(desk, 0, 0, 9, 0, 0), HUNG_UP, 9, 0, 1, 0);
-        d.dueRow("desk, ended: as many", rung(desk, 1, 0, 10, 0, 0), ENDED, 10, 0, 1, 0);
-        d.dueRow("desk, ended: one more", rung(desk, 1, 0, 9, 0, 0), HUNG_UP, 9, 0, 1, 0);
-        SpokenMenus leaf = house(Call.of("leaf", 10, 1, -1));
-        d.dueRow("leaf: as many", rung(leaf, 0, 0, 10, 0, 0), SERVED, 10, 0, 1, 0);
-        d.dueRow("leaf: one more", rung(leaf, 0, 0, 9, 0, 0), HUNG_UP, 9, 0, 1, 0);
-        d.dueRow("leaf, to THEN: as many", rung(leaf, 1, 0, 10, 0, 0), ENDED, 10, 0, 1, 0);
-        d.dueRow("leaf, to THEN: one more", rung(leaf, 1, 0, 9, 0, 0), HUNG_UP, 9, 0, 1, 0);
-        SpokenMenus menu = house(Call.of("menu", 4, 2, -1), Call.of("line", 0, 6, 0, 1, -1));
-        d.dueRow("menu, to THEN: as many", rung(menu, 1, 0, 20, 0, 0), ENDED, 20, 0, 1, 0);
-        d.dueRow("menu, to THEN: one more", rung(menu, 1, 0, 19, 0, 0), HUNG_UP, 19, 0, 1, 0);
-        SpokenMenus asked = house(Call.of("asked", 4, 2, 2, 1, 1), Call.of("desk", 0, 1));
-        d.dueRow("asked, right: as many", rung(asked, 0, 31, 6, 0, 0), SERVED, 6, 1, 2, 0);
-        d.dueRow("asked, right: one more", rung(asked, 0, 31, 5, 0, 0), HUNG_UP, 5, 0, 1, 0);
-        d.dueRow("asked, wrong: as many", rung(asked, 0, 32, 12, 0, 0), SERVED, 12, 1, 2, 0);
-        d.dueRow("asked, wrong: one more", rung(asked, 0, 32, 11, 0, 0), HUNG_UP, 11, 0, 1, 0);
-        d.dueRow("asked, who knows: as many", rung(asked, 0, 32, 4, 0, 1), SERVED, 4, 1, 2, 0);
-        d.dueRow("asked, who knows: one more", rung(asked, 0, 32, 3, 0, 1), HUNG_UP, 3, 0, 1, 0);
-        SpokenMenus clock = house(Call.of("leaf", 3, 0, 1), Call.of("clock", 0, 0, 2, -1), Call.of("desk", 1, 1));
-        d.dueRow("no tick at a clock", rung(clock, 0, 0, 3, 0, 0), HUNG_UP, 3, 2, 3, 0);
+        SpokenMenus desk = Ask.house(Call.of("desk", 10, 1));
+        d.dueRow("desk: as many", Ask.rung(desk, 0, 0, 10, 0, 0), SERVED, 10, 0, 1, 0);
+        d.dueRow("desk: one more", Ask.rung(desk, 0, 0, 9, 0, 0), HUNG_UP, 9, 0, 1, 0);
+        d.dueRow("desk, ended: as many", Ask.rung(desk, 1, 0, 10, 0, 0), ENDED, 10, 0, 1, 0);
+        d.dueRow("desk, ended: one more", Ask.rung(desk, 1, 0, 9, 0, 0), HUNG_UP, 9, 0, 1, 0);
+        SpokenMenus leaf = Ask.house(Call.of("leaf", 10, 1, -1));
+        d.dueRow("leaf: as many", Ask.rung(leaf, 0, 0, 10, 0, 0), SERVED, 10, 0, 1, 0);
+        d.dueRow("leaf: one more", Ask.rung(leaf, 0, 0, 9, 0, 0), HUNG_UP, 9, 0, 1, 0);
+        d.dueRow("leaf, to THEN: as many", Ask.rung(leaf, 1, 0, 10, 0, 0), ENDED, 10, 0, 1, 0);
+        d.dueRow("leaf, to THEN: one more", Ask.rung(leaf, 1, 0, 9, 0, 0), HUNG_UP, 9, 0, 1, 0);
+        SpokenMenus menu = Ask.house(Call.of("menu", 4, 2, -1), Call.of("line", 0, 6, 0, 1, -1));
+        d.dueRow("menu, to THEN: as many", Ask.rung(menu, 1, 0, 20, 0, 0), ENDED, 20, 0, 1, 0);
+        d.dueRow("menu, to THEN: one more", Ask.rung(menu, 1, 0, 19, 0, 0), HUNG_UP, 19, 0, 1, 0);
+        SpokenMenus asked = Ask.house(Call.of("asked", 4, 2, 2, 1, 1), Call.of("desk", 0, 1));
+        d.dueRow("asked, right: as many", Ask.rung(asked, 0, 31, 6, 0, 0), SERVED, 6, 1, 2, 0);
+        d.dueRow("asked, right: one more", Ask.rung(asked, 0, 31, 5, 0, 0), HUNG_UP, 5, 0, 1, 0);
+        d.dueRow("asked, wrong: as many", Ask.rung(asked, 0, 32, 12, 0, 0), SERVED, 12, 1, 2, 0);
+        d.dueRow("asked, wrong: one more", Ask.rung(asked, 0, 32, 11, 0, 0), HUNG_UP, 11, 0, 1, 0);
+        d.dueRow("asked, who knows: as many", Ask.rung(asked, 0, 32, 4, 0, 1), SERVED, 4, 1, 2, 0);
+        d.dueRow("asked, who knows: one more", Ask.rung(asked, 0, 32, 3, 0, 1), HUNG_UP, 3, 0, 1, 0);
+        SpokenMenus clock = Ask.house(Call.of("leaf", 3, 0, 1), Call.of("clock", 0, 0, 2, -1), Call.of("desk", 1, 1));
+        d.dueRow("no tick at a clock", Ask.rung(clock, 0, 0, 3, 0, 0), HUNG_UP, 3, 2, 3, 0);
     }
 
     /** "at the end of the first that speaks of its WISH it presses the KEY (1 tick)". */
     private static void patienceOfAKey() {
-        SpokenMenus x = house(Call.of("menu", 1, 1, -1), Call.of("line", 0, 10, 5, 1, 1), Call.of("desk", 0, 1));
-        d.dueRow("line and key", rung(x, 0, 0, 11, 0, 0), SERVED, 11, 1, 2, 1);
-        d.dueRow("line, not the key's tick", rung(x, 0, 0, 10, 0, 0), HUNG_UP, 10, 0, 1, 1);
-        d.dueRow("not all of the line", rung(x, 0, 0, 9, 0, 0), HUNG_UP, 9, 0, 1, 0);
-        d.dueRow("who knows", rung(x, 0, 0, 1, 0, 1), SERVED, 1, 1, 2, 1);
+        SpokenMenus x = Ask.house(Call.of("menu", 1, 1, -1), Call.of("line", 0, 10, 5, 1, 1), Call.of("desk", 0, 1));
+        d.dueRow("line and key", Ask.rung(x, 0, 0, 11, 0, 0), SERVED, 11, 1, 2, 1);
+        d.dueRow("line, not the key's tick", Ask.rung(x, 0, 0, 10, 0, 0), HUNG_UP, 10, 0, 1, 1);
+        d.dueRow("not all of the line", Ask.rung(x, 0, 0, 9, 0, 0), HUNG_UP, 9, 0, 1, 0);
+        d.dueRow("who knows", Ask.rung(x, 0, 0, 1, 0, 1), SERVED, 1, 1, 2, 1);
     }
 
     /** "A KEY is pressed, if not more ticks than PATIENCE were ahead of its own." */
     private static void keyAtPatience() {
-        SpokenMenus x = house(Call.of("leaf", 4, 0, 1), Call.of("menu", 1, 1, -1), Call.of("line", 1, 10, 5, 1, 2),
+        SpokenMenus x = Ask.house(Call.of("leaf", 4, 0, 1), Call.of("menu", 1, 1, -1), Call.of("line", 1, 10, 5, 1, 2),
             Call.of("desk", 0, 1));
-        d.dueRow("as many ahead of it", rung(x, 0, 0, 14, 0, 0), HUNG_UP, 14, 1, 2, 1);
+        d.dueRow("as many ahead of it", Ask.rung(x, 0, 0, 14, 0, 0), HUNG_UP, 14, 1, 2, 1);
         d.due("the key", x.pressed(0), 5);
-        d.dueRow("one more ahead of it", rung(x, 0, 0, 13, 0, 0), HUNG_UP, 13, 1, 2, 0);
+        d.dueRow("one more ahead of it", Ask.rung(x, 0, 0, 13, 0, 0), HUNG_UP, 13, 1, 2, 0);
         d.due("no key", x.pressed(0), NONE);
-        d.dueRow("who knows: as many ahead of it", rung(x, 0, 0, 4, 0, 1), HUNG_UP, 4, 1, 2, 1);
+        d.dueRow("who knows: as many ahead of it", Ask.rung(x, 0, 0, 4, 0, 1), HUNG_UP, 4, 1, 2, 1);
         d.due("the key", x.pressed(0), 5);
-        d.dueRow("who knows: one more ahead of it", rung(x, 0, 0, 3, 0, 1), HUNG_UP, 3, 0, 1, 0);
+        d.dueRow("who knows: one more ahead of it", Ask.rung(x, 0, 0, 3, 0, 1), HUNG_UP, 3, 0, 1, 0);
         d.due("no key", x.pressed(0), NONE);
     }
 
     /** "what takes it beyond PATIENCE comes first": no CLOCK is come to then. */
     private static void hungUpAheadOfLost() {
-        SpokenMenus x = house(Call.of("leaf", 2, 0, 1), Call.of("clock", 0, 0, 1, -1));
-        d.dueRow("hung up ahead of the clocks", rung(x, 0, 0, 1, 0, 0), HUNG_UP, 1, 0, 1, 0);
-        d.dueRow("lost with all its ticks", rung(x, 0, 0, 2, 0, 0), LOST, 2, 1, 42, 0);
+        SpokenMenus x = Ask.house(Call.of("leaf", 2, 0, 1), Call.of("clock", 0, 0, 1, -1));
+        d.dueRow("hung up ahead of the clocks", Ask.rung(x, 0, 0, 1, 0, 0), HUNG_UP, 1, 0, 1, 0);
+        d.dueRow("lost with all its ticks", Ask.rung(x, 0, 0, 2, 0, 0), LOST, 2, 1, 42, 0);
     }
 
     /** "a PATIENCE (1 to 5000 ticks)". */
     private static void leastAndMostPatience() {
-        SpokenMenus x = house(Call.of("leaf", 1, 0, 0));
-        d.dueRow("patience 1", rung(x, 0, 0, 1, 0, 0), HUNG_UP, 1, 0, 2, 0);
-        d.dueRow("patience 5000", rung(x, 0, 0, 5000, 0, 0), HUNG_UP, 5000, 0, 5001, 0);
+        SpokenMenus x = Ask.house(Call.of("leaf", 1, 0, 0));
+        d.dueRow("patience 1", Ask.rung(x, 0, 0, 1, 0, 0), HUNG_UP, 1, 0, 2, 0);
+        d.dueRow("patience 5000", Ask.rung(x, 0, 0, 5000, 0, 0), HUNG_UP, 5000, 0, 5001, 0);
         SpokenMenus long39 = new SpokenMenus();
         for (int p = 0; p < 39; p++) {
             long39.clock(0, 0, p + 1, -1);
         }
         long39.leaf(1, 0, 0);
-        d.dueRow("39 clocks for each tick", rung(long39, 0, 0, 5000, 0, 0), HUNG_UP, 5000, 39, 40 * 5001, 0);
+        d.dueRow("39 clocks for each tick", Ask.rung(long39, 0, 0, 5000, 0, 0), HUNG_UP, 5000, 39, 40 * 5001, 0);
     }
 
     /** "LOST: at a CLOCK for the 41st time on end." */
     private static void lostAtThe41st() {
-        d.dueRow("40 clocks, then none", rung(clocks(40, -1), 0, 0, 1, 0, 0), ENDED, 0, 39, 40, 0);
-        d.dueRow("40 clocks, then the first", rung(clocks(40, 0), 0, 0, 1, 0, 0), LOST, 0, 0, 41, 0);
-        d.dueRow("40 clocks, then the last again", rung(clocks(40, 39), 0, 0, 1, 0, 0), LOST, 0, 39, 41, 0);
-        d.dueRow("39 clocks, then a place that is not there", rung(clocks(39, 39), 0, 0, 1, 0, 0), ENDED, 0, 38, 39, 0);
-        d.dueRow("one clock", rung(clocks(1, 0), 0, 0, 1, 0, 0), LOST, 0, 0, 41, 0);
-        d.dueRow("two clocks", rung(clocks(2, 0), 0, 0, 1, 0, 0), LOST, 0, 0, 41, 0);
-        d.dueRow("who knows no way", rung(clocks(2, 0), 0, 0, 1, 0, 1), LOST, 0, 0, 41, 0);
+        d.dueRow("40 clocks, then none", Ask.rung(clocks(40, -1), 0, 0, 1, 0, 0), ENDED, 0, 39, 40, 0);
+        d.dueRow("40 clocks, then the first", Ask.rung(clocks(40, 0), 0, 0, 1, 0, 0), LOST, 0, 0, 41, 0);
+        d.dueRow("40 clocks, then the last again", Ask.rung(clocks(40, 39), 0, 0, 1, 0, 0), LOST, 0, 39, 41, 0);
+        d.dueRow("39 clocks, then a place that is not there", Ask.rung(clocks(39, 39), 0, 0, 1, 0, 0), ENDED, 0, 38, 39, 0);
+        d.dueRow("one clock", Ask.rung(clocks(1, 0), 0, 0, 1, 0, 0), LOST, 0, 0, 41, 0);
+        d.dueRow("two clocks", Ask.rung(clocks(2, 0), 0, 0, 1, 0, 0), LOST, 0, 0, 41, 0);
+        d.dueRow("who knows no way", Ask.rung(clocks(2, 0), 0, 0, 1, 0, 1), LOST, 0, 0, 41, 0);
+        SpokenMenus again = clocks(40, 0);
+        again.ring(0, 0, 1, 0, 0);
+        d.dueRow("a call behind one that was lost", Ask.rung(again, 0, 0, 1, 0, 0), LOST, 0, 0, 41, 0);
         SpokenMenus x = clocks(39, 39);
         x.desk(0, 1);
-        d.dueRow("39 clocks, then a desk", rung(x, 0, 0, 1, 0, 0), SERVED, 0, 39, 40, 0);
-        d.dueRow("who knows, by 39 clocks", rung(x, 0, 0, 1, 0, 1), SERVED, 0, 39, 40, 0);
+        d.dueRow("39 clocks, then a desk", Ask.rung(x, 0, 0, 1, 0, 0), SERVED, 0, 39, 40, 0);
+        d.dueRow("who knows, by 39 clocks", Ask.rung(x, 0, 0, 1, 0, 1), SERVED, 0, 39, 40, 0);
     }
 
     /** "on end": another PLACE between clocks begins anew. */
     private static void clocksOnEnd() {
-        SpokenMenus leaf = house(Call.of("clock", 0, 0, 1, -1), Call.of("leaf", 200, 0, 0));
-        d.dueRow("a leaf between", rung(leaf, 0, 0, 5000, 0, 0), HUNG_UP, 5000, 1, 52, 0);
-        SpokenMenus menu = house(Call.of("clock", 0, 0, 1, -1), Call.of("menu", 100, 1, 0));
-        d.dueRow("a menu between", rung(menu, 0, 0, 5000, 0, 0), HUNG_UP, 5000, 1, 102, 0);
-        SpokenMenus asked = house(Call.of("clock", 0, 0, 1, -1), Call.of("asked", 99, 1, 1, 0, 0));
-        d.dueRow("asked between", rung(asked, 0, 0, 5000, 0, 0), HUNG_UP, 5000, 1, 102, 0);
-        SpokenMenus x = house(Call.of("clock", 0, 0, 1, -1), Call.of("leaf", 1, 0, 2), Call.of("clock", 0, 0, 2, -1));
-        d.dueRow("one clock, a leaf, then 41", rung(x, 0, 0, 1, 0, 0), LOST, 1, 2, 43, 0);
+        SpokenMenus leaf = Ask.house(Call.of("clock", 0, 0, 1, -1), Call.of("leaf", 200, 0, 0));
+        d.dueRow("a leaf between", Ask.rung(leaf, 0, 0, 5000, 0, 0), HUNG_UP, 5000, 1, 52, 0);
+        SpokenMenus menu = Ask.house(Call.of("clock", 0, 0, 1, -1), Call.of("menu", 100, 1, 0));
+        d.dueRow("a menu between", Ask.rung(menu, 0, 0, 5000, 0, 0), HUNG_UP, 5000, 1, 102, 0);
+        SpokenMenus asked = Ask.house(Call.of("clock", 0, 0, 1, -1), Call.of("asked", 99, 1, 1, 0, 0));
+        d.dueRow("asked between", Ask.rung(asked, 0, 0, 5000, 0, 0), HUNG_UP, 5000, 1, 102, 0);
+        SpokenMenus x = Ask.house(Call.of("clock", 0, 0, 1, -1), Call.of("leaf", 1, 0, 2), Call.of("clock", 0, 0, 2, -1));
+        d.dueRow("one clock, a leaf, then 41", Ask.rung(x, 0, 0, 1, 0, 0), LOST, 1, 2, 43, 0);
     }
 
     /** "if there is none, as who does not know." */
     private static void noWay() {
-        SpokenMenus x = house(Call.of("menu", 2, 2, 1), Call.of("line", 0, 6, 3, 1, 1), Call.of("asked", 10, 3, 2, -1, 2),
+        SpokenMenus x = Ask.house(Call.of("menu", 2, 2, 1), Call.of("line", 0, 6, 3, 1, 1), Call.of("asked", 10, 3, 2, -1, 2),
             Call.of("desk", 1, 2));
-        d.dueRow("none, by a line", rung(x, 0, 1, 1000, 0, 1), ENDED, 7 + 26 + 1, 2, 3, 1);
-        d.dueRow("none, by THEN", rung(x, 2, 1, 1000, 0, 1), ENDED, 16 + 26 + 1, 2, 3, 0);
-        d.dueRow("none, as the number is right", rung(x, 1, 130, 1000, 0, 1), ENDED, 16 + 13, 1, 2, 0);
-        d.dueRow("one", rung(x, 1, 1, 1000, 0, 1), SERVED, 1 + 6 + 1, 2, 3, 1);
+        d.dueRow("none, by a line", Ask.rung(x, 0, 1, 1000, 0, 1), ENDED, 7 + 26 + 1, 2, 3, 1);
+        d.dueRow("none, by THEN", Ask.rung(x, 2, 1, 1000, 0, 1), ENDED, 16 + 26 + 1, 2, 3, 0);
+        d.dueRow("none, as the number is right", Ask.rung(x, 1, 130, 1000, 0, 1), ENDED, 16 + 13, 1, 2, 0);
+        d.dueRow("one", Ask.rung(x, 1, 1, 1000, 0, 1), SERVED, 1 + 6 + 1, 2, 3, 1);
+        SpokenMenus y = Ask.house(Call.of("menu", 2, 1, -1), Call.of("line", 0, 6, 3, 1, -1), Call.of("desk", 1, 1));
+        d.dueRow("none from place 0, one from place 1", Ask.rung(y, 0, 0, 100, 0, 1), ENDED, 7, 0, 1, 1);
+        y.change(0, 0, 2, 2);
+        y.desk(3, 2);
+        d.dueRow("one from place 0, none from place 1", Ask.rung(y, 1, 0, 100, 0, 1), SERVED, 4, 2, 2, 1);
     }
 
     /** "the way by which it is SERVED in fewest ticks": none at all may be needed. */
     private static void wayOfNoTicks() {
-        d.dueRow("a desk at once", rung(open(), 15, 0, 1, 0, 1), SERVED, 0, 0, 1, 0);
-        SpokenMenus x = house(Call.of("clock", 1, 2, -1, 1), Call.of("desk", 0, 1));
-        d.dueRow("by a clock", rung(x, 0, 0, 1, 0, 1), SERVED, 0, 1, 2, 0);
+        d.dueRow("a desk at once", Ask.rung(open(), 15, 0, 1, 0, 1), SERVED, 0, 0, 1, 0);
+        SpokenMenus x = Ask.house(Call.of("clock", 1, 2, -1, 1), Call.of("desk", 0, 1));
+        d.dueRow("by a clock", Ask.rung(x, 0, 0, 1, 0, 1), SERVED, 0, 1, 2, 0);
     }
 
     /** A way of more ticks than PATIENCE is a way: it is gone, and hung up on. */
     private static void wayBeyondPatience() {
-        SpokenMenus x = house(Call.of("menu", 2, 1, -1), Call.of("line", 0, 50, 3, 1, -1), Call.of("line", 0, 50, 4, 0, 1),
+        SpokenMenus x = Ask.house(Call.of("menu", 2, 1, -1), Call.of("line", 0, 50, 3, 1, -1), Call.of("line", 0, 50, 4, 0, 1),
             Call.of("desk", 9, 1));
-        d.dueRow("just served", rung(x, 0, 0, 10, 0, 1), SERVED, 10, 1, 2, 1);
-        d.dueRow("hung up at the desk", rung(x, 0, 0, 9, 0, 1), HUNG_UP, 9, 1, 2, 1);
+        d.dueRow("just served", Ask.rung(x, 0, 0, 10, 0, 1), SERVED, 10, 1, 2, 1);
+        d.dueRow("hung up at the desk", Ask.rung(x, 0, 0, 9, 0, 1), HUNG_UP, 9, 1, 2, 1);
         d.due("by the second key", x.pressed(0), 4);
     }
 
     /** "of several that which at the first PLACE where they part has the lower LINE". */
     private static void lowerLine() {
-        SpokenMenus x = house(Call.of("menu", 1, 1, -1), Call.of("menu", 1, 1, -1), Call.of("desk", 4, 1), Call.of("desk", 4, 1),
+        SpokenMenus x = Ask.house(Call.of("menu", 1, 1, -1), Call.of("menu", 1, 1, -1), Call.of("desk", 4, 1), Call.of("desk", 4, 1),
             Call.of("desk", 5, 1));
         x.line(0, 1, 9, 0, 4);
         x.line(0, 1, 8, 0, 1);
         x.line(1, 1, 7, 0, 3);
         x.line(1, 1, 6, 0, 2);
-        d.dueRow("like ways: the lower line of the first menu", rung(x, 0, 0, 100, 0, 1), SERVED, 6, 4, 2, 1);
+        d.dueRow("like ways: the lower line of the first menu", Ask.rung(x, 0, 0, 100, 0, 1), SERVED, 6, 4, 2, 1);
         d.due("its key", x.pressed(0), 9);
         x.swap(0, 0, 1);
-        d.dueRow("then by the second menu", rung(x, 0, 0, 100, 0, 1), SERVED, 6, 3, 3, 2);
+        d.dueRow("then by the second menu", Ask.rung(x, 0, 0, 100, 0, 1), SERVED, 6, 3, 3, 2);
         d.due("its lower line, though not the lower place", x.pressed(1), 7);
-        SpokenMenus y = house(Call.of("menu", 1, 1, -1), Call.of("desk", 0, 1));
+        SpokenMenus y = Ask.house(Call.of("menu", 1, 1, -1), Call.of("desk", 0, 1));
         for (int i = 0; i < 6; i++) {
             y.line(0, 1, 11 - i, 0, i == 5 ? 1 : -1);
         }
-        d.dueRow("the last of six lines", rung(y, 0, 0, 100, 0, 1), SERVED, 1, 1, 2, 1);
+        d.dueRow("the last of six lines", Ask.rung(y, 0, 0, 100, 0, 1), SERVED, 1, 1, 2, 1);
         d.due("its key", y.pressed(0), 6);
         y.change(0, 0, 2, 1);
         y.ring(0, 0, 100, 0, 1);
@@ -379,12 +373,12 @@ public final class CallsBoundsTest {
 
     /** "to THEN last". */
     private static void thenLast() {
-        SpokenMenus x = house(Call.of("menu", 4, 1, 1), Call.of("line", 0, 2, 3, 0, 2), Call.of("desk", 0, 1), Call.of("desk", 5, 1));
-        d.dueRow("6 by a key, 6 by THEN", rung(x, 0, 0, 100, 0, 1), SERVED, 6, 2, 2, 1);
+        SpokenMenus x = Ask.house(Call.of("menu", 4, 1, 1), Call.of("line", 0, 2, 3, 0, 2), Call.of("desk", 0, 1), Call.of("desk", 5, 1));
+        d.dueRow("6 by a key, 6 by THEN", Ask.rung(x, 0, 0, 100, 0, 1), SERVED, 6, 2, 2, 1);
         x.change(0, 0, 0, 1);
-        d.dueRow("6 by a key, 5 by THEN", rung(x, 0, 0, 100, 0, 1), SERVED, 5, 1, 2, 0);
-        SpokenMenus y = house(Call.of("menu", 1, 1, 1), Call.of("desk", 0, 1));
-        d.dueRow("without lines, by THEN", rung(y, 0, 0, 100, 0, 1), SERVED, 1, 1, 2, 0);
+        d.dueRow("6 by a key, 5 by THEN", Ask.rung(x, 0, 0, 100, 0, 1), SERVED, 5, 1, 2, 0);
+        SpokenMenus y = Ask.house(Call.of("menu", 1, 1, 1), Call.of("desk", 0, 1));
+        d.dueRow("without lines, by THEN", Ask.rung(y, 0, 0, 100, 0, 1), SERVED, 1, 1, 2, 0);
     }
 
     /** "Of the latest call: 0 its ticks, 1 the PLACE .., 2 how many PLACES .., 3 KEYS pressed. NONE: none was; BAD." */
@@ -404,8 +398,8 @@ public final class CallsBoundsTest {
     /** "the PLACE where it ended (one that is not there: the last one that is)". */
     private static void callWhereItEnded() {
         for (int next : new int[] {-1, 2, 39}) {
-            SpokenMenus x = house(Call.of("leaf", 1, 0, 1), Call.of("clock", 0, 0, next, -1));
-            d.dueRow("to " + next, rung(x, 0, 0, 100, 0, 0), ENDED, 1, 1, 2, 0);
+            SpokenMenus x = Ask.house(Call.of("leaf", 1, 0, 1), Call.of("clock", 0, 0, next, -1));
+            d.dueRow("to " + next, Ask.rung(x, 0, 0, 100, 0, 0), ENDED, 1, 1, 2, 0);
             d.due("came to the last one that is", x.came(1), 1);
             d.due("and to no more", x.came(2), NONE);
         }
@@ -435,7 +429,7 @@ public final class CallsBoundsTest {
         d.due("none was, -1", new SpokenMenus().pressed(-1), BAD);
         d.due("no key of a call", pressedAfter(open(), 1, 0), NONE);
         for (int keys : new int[] {1, 2, 59, 60, 61, 62}) {
-            SpokenMenus x = house(Call.of("menu", 1, 1, -1), Call.of("menu", 1, 1, -1));
+            SpokenMenus x = Ask.house(Call.of("menu", 1, 1, -1), Call.of("menu", 1, 1, -1));
             x.line(0, 1, 11, 1, 1);
             x.line(1, 1, 0, 1, 0);
             x.ring(0, 0, keys * 2, 0, 0);
@@ -482,8 +476,8 @@ public final class CallsBoundsTest {
     /** No ticks at the least, 39 of the longest MENUS and a DESK at the most. */
     private static void fewestLeast() {
         d.due("no ticks", open().fewest(0, 15, 0, 23), 0);
-        d.due("no way to a place that is not there", house(Call.of("leaf", 1, 0, 1)).fewest(0, 0, 0, 0), NONE);
-        d.due("no way in a ring", house(Call.of("leaf", 1, 0, 0)).fewest(0, 0, 0, 0), NONE);
+        d.due("no way to a place that is not there", Ask.house(Call.of("leaf", 1, 0, 1)).fewest(0, 0, 0, 0), NONE);
+        d.due("no way in a ring", Ask.house(Call.of("leaf", 1, 0, 0)).fewest(0, 0, 0, 0), NONE);
         d.due("no way in a ring of clocks", clocks(40, 0).fewest(39, 0, 0, 0), NONE);
         SpokenMenus x = new SpokenMenus();
         for (int p = 0; p < 39; p++) {
@@ -495,7 +489,7 @@ public final class CallsBoundsTest {
         x.desk(500, 1 << 15);
         d.due("the longest way", x.fewest(0, 15, 0, 0), 39 * 3900 + 500);
         d.due("from the last menu", x.fewest(38, 15, 0, 0), 4400);
-        d.dueRow("too long for any patience", rung(x, 15, 0, 5000, 0, 1), HUNG_UP, 5000, 1, 2, 0);
+        d.dueRow("too long for any patience", Ask.rung(x, 15, 0, 5000, 0, 1), HUNG_UP, 5000, 1, 2, 0);
     }
 
     /** "i = -1: how many TRAPS there are at an HOUR; else the i-th of them, by numbers (NONE). BAD". */
@@ -524,43 +518,35 @@ public final class CallsBoundsTest {
 
     /** PLACE 0 itself is one, if it leads to no DESK; a DESK is none, whatever it serves. */
     private static void trapsOfPlace0() {
-        d.due("a desk alone", house(Call.of("desk", 0, 0)).trap(0, -1), 0);
-        d.due("a leaf alone, though it serves", house(Call.of("leaf", 1, 65535, -1)).trap(0, 0), 0);
-        d.due("a menu without lines", house(Call.of("menu", 1, 1, -1)).trap(0, -1), 1);
-        d.due("a leaf to itself", house(Call.of("leaf", 1, 0, 0)).trap(0, -1), 1);
-        d.due("a leaf that serves, to a desk", house(Call.of("leaf", 1, 65535, 1), Call.of("desk", 0, 0)).trap(0, -1), 0);
-        d.due("a desk that is not there yet", house(Call.of("leaf", 1, 0, 1)).trap(0, -1), 1);
-    }
-
-    private static int[] trapsOf(SpokenMenus x, int hour) {
-        int[] row = new int[Math.max(0, x.trap(hour, -1))];
-        for (int i = 0; i < row.length; i++) {
-            row[i] = x.trap(hour, i);
-        }
-        return row;
+        d.due("a desk alone", Ask.house(Call.of("desk", 0, 0)).trap(0, -1), 0);
+        d.due("a leaf alone, though it serves", Ask.house(Call.of("leaf", 1, 65535, -1)).trap(0, 0), 0);
+        d.due("a menu without lines", Ask.house(Call.of("menu", 1, 1, -1)).trap(0, -1), 1);
+        d.due("a leaf to itself", Ask.house(Call.of("leaf", 1, 0, 0)).trap(0, -1), 1);
+        d.due("a leaf that serves, to a desk", Ask.house(Call.of("leaf", 1, 65535, 1), Call.of("desk", 0, 0)).trap(0, -1), 0);
+        d.due("a desk that is not there yet", Ask.house(Call.of("leaf", 1, 0, 1)).trap(0, -1), 1);
     }
 
     /** "the i-th of them, by numbers": not as they are reached. */
     private static void trapsByNumbers() {
-        SpokenMenus x = house(Call.of("menu", 1, 1, 4), Call.of("leaf", 1, 0, -1), Call.of("desk", 0, 0),
+        SpokenMenus x = Ask.house(Call.of("menu", 1, 1, 4), Call.of("leaf", 1, 0, -1), Call.of("desk", 0, 0),
             Call.of("leaf", 1, 0, 1), Call.of("leaf", 1, 0, 3), Call.of("line", 0, 1, 0, 0, 2));
-        d.dueRow("4 leads to 3, 3 to 1", trapsOf(x, 0), 1, 3, 4);
-        SpokenMenus y = house(Call.of("menu", 1, 1, -1), Call.of("desk", 0, 0), Call.of("leaf", 1, 0, -1));
+        d.dueRow("4 leads to 3, 3 to 1", Ask.trapsOf(x, 0), 1, 3, 4);
+        SpokenMenus y = Ask.house(Call.of("menu", 1, 1, -1), Call.of("desk", 0, 0), Call.of("leaf", 1, 0, -1));
         for (int i = 0; i < 6; i++) {
             y.line(0, 1, i, 0, i == 5 ? 1 : 2);
         }
-        d.dueRow("the sixth key leads to a desk", trapsOf(y, 0), 2);
+        d.dueRow("the sixth key leads to a desk", Ask.trapsOf(y, 0), 2);
         y.change(0, 5, 2, 2);
-        d.dueRow("it does not", trapsOf(y, 0), 0, 2);
+        d.dueRow("it does not", Ask.trapsOf(y, 0), 0, 2);
     }
 
     /** "what CLOCKS tell": by the HOUR, its bounds as those of calls. */
     private static void trapsByHour() {
-        SpokenMenus x = house(Call.of("clock", 22, 6, 1, 2), Call.of("desk", 0, 0), Call.of("leaf", 1, 0, -1));
+        SpokenMenus x = Ask.house(Call.of("clock", 22, 6, 1, 2), Call.of("desk", 0, 0), Call.of("leaf", 1, 0, -1));
         for (int hour = 0; hour <= 23; hour++) {
             d.due("traps at " + hour, x.trap(hour, -1), hour >= 22 || hour < 6 ? 0 : 2);
         }
-        SpokenMenus y = house(Call.of("clock", 9, 9, 1, 2), Call.of("desk", 0, 0), Call.of("leaf", 1, 0, -1));
+        SpokenMenus y = Ask.house(Call.of("clock", 9, 9, 1, 2), Call.of("desk", 0, 0), Call.of("leaf", 1, 0, -1));
         for (int hour = 0; hour <= 23; hour++) {
             d.due("always open, at " + hour, y.trap(hour, -1), 0);
         }
@@ -568,17 +554,19 @@ public final class CallsBoundsTest {
 
     /** "a PLACE to which PLACE 0 leads (by any KEYS, THEN, either next PLACE of ASKED ..)". */
     private static void trapsAreReached() {
-        SpokenMenus x = house(Call.of("desk", 0, 0), Call.of("leaf", 1, 0, -1));
+        SpokenMenus x = Ask.house(Call.of("desk", 0, 0), Call.of("leaf", 1, 0, -1));
         d.due("a leaf to which nothing leads", x.trap(0, -1), 0);
+        SpokenMenus y = Ask.house(Call.of("desk", 0, 0), Call.of("leaf", 1, 0, 2), Call.of("leaf", 1, 0, -1));
+        d.due("a leaf to which only such a leaf leads", y.trap(0, -1), 0);
         Call[] first = {
             Call.of("menu", 1, 1, 2), Call.of("leaf", 1, 0, 2), Call.of("clock", 0, 0, 2, 1), Call.of("clock", 1, 2, 1, 2),
             Call.of("asked", 1, 1, 1, 2, -1), Call.of("asked", 1, 1, 1, -1, 2),
         };
         for (Call call : first) {
-            d.dueRow(call + " leads to a leaf", trapsOf(house(call, Call.of("desk", 0, 0), Call.of("leaf", 1, 0, -1)), 0), 0, 2);
+            d.dueRow(call + " leads to a leaf", Ask.trapsOf(Ask.house(call, Call.of("desk", 0, 0), Call.of("leaf", 1, 0, -1)), 0), 0, 2);
         }
         for (Call call : first) {
-            d.dueRow(call + " leads to a desk", trapsOf(house(call, Call.of("leaf", 1, 0, -1), Call.of("desk", 0, 0)), 0));
+            d.dueRow(call + " leads to a desk", Ask.trapsOf(Ask.house(call, Call.of("leaf", 1, 0, -1), Call.of("desk", 0, 0)), 0));
         }
     }
 }

@@ -32,12 +32,6 @@ public final class CallsTest {
         d.end();
     }
 
-    /** How it ends, then call(0) to call(3). */
-    private static int[] rung(SpokenMenus x, int wish, int number, int patience, int hour, int knows) {
-        int end = x.ring(wish, number, patience, hour, knows);
-        return new int[] {end, x.call(0), x.call(1), x.call(2), x.call(3)};
-    }
-
     private static void wrongCallers() {
         SpokenMenus x = new SpokenMenus();
         d.due("no place 0", x.ring(0, 0, 1, 0, 0), NO);
@@ -73,31 +67,31 @@ public final class CallsTest {
 
     private static void listening() {
         SpokenMenus x = oneMenu();
-        d.dueRow("first line", rung(x, 0, 0, 1000, 0, 0), SERVED, 14, 1, 2, 1);
+        d.dueRow("first line", Ask.rung(x, 0, 0, 1000, 0, 0), SERVED, 14, 1, 2, 1);
         d.due("its key", x.pressed(0), 4);
-        d.dueRow("second line", rung(x, 1, 0, 1000, 0, 0), SERVED, 34, 1, 2, 1);
+        d.dueRow("second line", Ask.rung(x, 1, 0, 1000, 0, 0), SERVED, 34, 1, 2, 1);
         d.due("its key", x.pressed(0), 9);
     }
 
     private static void hearingAll() {
         SpokenMenus x = oneMenu();
-        d.dueRow("no line speaks of it", rung(x, 2, 0, 1000, 0, 0), SERVED, 2 * 35 + 2 + 3, 1, 3, 0);
+        d.dueRow("no line speaks of it", Ask.rung(x, 2, 0, 1000, 0, 0), SERVED, 2 * 35 + 2 + 3, 1, 3, 0);
         d.due("came to the menu", x.came(0), 0);
         d.due("came to the leaf", x.came(1), 2);
         d.due("came to the desk", x.came(2), 1);
         SpokenMenus y = new SpokenMenus();
         y.menu(7, 3, -1);
-        d.dueRow("without lines", rung(y, 2, 0, 1000, 0, 0), ENDED, 21, 0, 1, 0);
+        d.dueRow("without lines", Ask.rung(y, 2, 0, 1000, 0, 0), ENDED, 21, 0, 1, 0);
     }
 
     private static void nextThatIsNotThere() {
         SpokenMenus x = new SpokenMenus();
         x.menu(1, 1, 1);
         x.line(0, 2, 3, 1, 30);
-        d.dueRow("a line's next", rung(x, 0, 0, 100, 0, 0), ENDED, 3, 0, 1, 1);
-        d.dueRow("then", rung(x, 1, 0, 100, 0, 0), ENDED, 3, 0, 1, 0);
+        d.dueRow("a line's next", Ask.rung(x, 0, 0, 100, 0, 0), ENDED, 3, 0, 1, 1);
+        d.dueRow("then", Ask.rung(x, 1, 0, 100, 0, 0), ENDED, 3, 0, 1, 0);
         x.desk(1, 2);
-        d.dueRow("then, there by now", rung(x, 1, 0, 100, 0, 0), SERVED, 4, 1, 2, 0);
+        d.dueRow("then, there by now", Ask.rung(x, 1, 0, 100, 0, 0), SERVED, 4, 1, 2, 0);
         d.due("nothing is kept of what is not there", x.ring(0, 0, 100, 0, 0), ENDED);
         d.due("came once", x.came(1), NONE);
     }
@@ -106,9 +100,9 @@ public final class CallsTest {
         SpokenMenus x = new SpokenMenus();
         x.leaf(4, 1, 1);
         x.desk(6, 2);
-        d.dueRow("served at the leaf", rung(x, 0, 0, 100, 0, 0), SERVED, 4, 0, 1, 0);
-        d.dueRow("served at the desk", rung(x, 1, 0, 100, 0, 0), SERVED, 10, 1, 2, 0);
-        d.dueRow("ended at the desk", rung(x, 2, 0, 100, 0, 0), ENDED, 10, 1, 2, 0);
+        d.dueRow("served at the leaf", Ask.rung(x, 0, 0, 100, 0, 0), SERVED, 4, 0, 1, 0);
+        d.dueRow("served at the desk", Ask.rung(x, 1, 0, 100, 0, 0), SERVED, 10, 1, 2, 0);
+        d.dueRow("ended at the desk", Ask.rung(x, 2, 0, 100, 0, 0), ENDED, 10, 1, 2, 0);
     }
 
     private static void clockIs(int from, int to, int... open) {
@@ -121,7 +115,7 @@ public final class CallsTest {
             for (int o : open) {
                 isOpen |= o == hour;
             }
-            d.dueRow("clock " + from + " to " + to + " at " + hour, rung(x, 0, 0, 1, hour, 0),
+            d.dueRow("clock " + from + " to " + to + " at " + hour, Ask.rung(x, 0, 0, 1, hour, 0),
                 SERVED, 0, isOpen ? 1 : 2, 2, 0);
         }
     }
@@ -137,24 +131,24 @@ public final class CallsTest {
     private static void lost() {
         SpokenMenus x = new SpokenMenus();
         x.clock(0, 0, 0, -1);
-        d.dueRow("one clock", rung(x, 0, 0, 1, 0, 0), LOST, 0, 0, 41, 0);
+        d.dueRow("one clock", Ask.rung(x, 0, 0, 1, 0, 0), LOST, 0, 0, 41, 0);
         d.due("the 41st coming", x.came(40), 0);
         d.due("no 42nd", x.came(41), NONE);
-        d.dueRow("a call behind it", rung(x, 0, 0, 1, 0, 0), LOST, 0, 0, 41, 0);
+        d.dueRow("a call behind it", Ask.rung(x, 0, 0, 1, 0, 0), LOST, 0, 0, 41, 0);
         SpokenMenus w = new SpokenMenus();
         w.leaf(1, 0, 1);
         w.clock(0, 0, 1, -1);
-        d.dueRow("a leaf, then one clock", rung(w, 0, 0, 1, 0, 0), LOST, 1, 1, 42, 0);
+        d.dueRow("a leaf, then one clock", Ask.rung(w, 0, 0, 1, 0, 0), LOST, 1, 1, 42, 0);
         SpokenMenus y = new SpokenMenus();
         for (int p = 0; p < 39; p++) {
             y.clock(0, 0, p + 1, -1);
         }
         y.leaf(1, 0, 0);
-        d.dueRow("39 clocks on end do not lose", rung(y, 0, 0, 1, 0, 0), HUNG_UP, 1, 39, 80, 0);
+        d.dueRow("39 clocks on end do not lose", Ask.rung(y, 0, 0, 1, 0, 0), HUNG_UP, 1, 39, 80, 0);
         SpokenMenus z = new SpokenMenus();
         z.clock(0, 0, 1, -1);
         z.leaf(1, 0, 0);
-        d.dueRow("clocks that are not on end", rung(z, 0, 0, 100, 0, 0), HUNG_UP, 100, 1, 202, 0);
+        d.dueRow("clocks that are not on end", Ask.rung(z, 0, 0, 100, 0, 0), HUNG_UP, 100, 1, 202, 0);
     }
 
     private static int right(int figures, int number) {
@@ -189,47 +183,47 @@ public final class CallsTest {
         x.asked(10, 4, 3, 1, 2);
         x.desk(1, 1);
         x.desk(2, 1);
-        d.dueRow("right", rung(x, 0, 31, 1000, 0, 0), SERVED, 15, 1, 2, 0);
-        d.dueRow("wrong", rung(x, 0, 32, 1000, 0, 0), SERVED, 44, 2, 2, 0);
-        d.dueRow("right, who knows", rung(x, 0, 31, 1000, 0, 1), SERVED, 5, 1, 2, 0);
-        d.dueRow("wrong, who knows", rung(x, 0, 32, 1000, 0, 1), SERVED, 14, 2, 2, 0);
+        d.dueRow("right", Ask.rung(x, 0, 31, 1000, 0, 0), SERVED, 15, 1, 2, 0);
+        d.dueRow("wrong", Ask.rung(x, 0, 32, 1000, 0, 0), SERVED, 44, 2, 2, 0);
+        d.dueRow("right, who knows", Ask.rung(x, 0, 31, 1000, 0, 1), SERVED, 5, 1, 2, 0);
+        d.dueRow("wrong, who knows", Ask.rung(x, 0, 32, 1000, 0, 1), SERVED, 14, 2, 2, 0);
     }
 
     private static void patienceAtMenu() {
         SpokenMenus x = oneMenu();
-        d.dueRow("just served", rung(x, 0, 0, 14, 0, 0), SERVED, 14, 1, 2, 1);
-        d.dueRow("at the desk", rung(x, 0, 0, 13, 0, 0), HUNG_UP, 13, 1, 2, 1);
-        d.dueRow("the key's tick", rung(x, 0, 0, 10, 0, 0), HUNG_UP, 10, 0, 1, 1);
+        d.dueRow("just served", Ask.rung(x, 0, 0, 14, 0, 0), SERVED, 14, 1, 2, 1);
+        d.dueRow("at the desk", Ask.rung(x, 0, 0, 13, 0, 0), HUNG_UP, 13, 1, 2, 1);
+        d.dueRow("the key's tick", Ask.rung(x, 0, 0, 10, 0, 0), HUNG_UP, 10, 0, 1, 1);
         d.due("the key", x.pressed(0), 4);
-        d.dueRow("ahead of the key", rung(x, 0, 0, 9, 0, 0), HUNG_UP, 9, 0, 1, 0);
+        d.dueRow("ahead of the key", Ask.rung(x, 0, 0, 9, 0, 0), HUNG_UP, 9, 0, 1, 0);
         d.due("no key", x.pressed(0), NONE);
-        d.dueRow("in all that is heard", rung(x, 2, 0, 69, 0, 0), HUNG_UP, 69, 0, 1, 0);
-        d.dueRow("behind it", rung(x, 2, 0, 70, 0, 0), HUNG_UP, 70, 2, 2, 0);
-        d.dueRow("who knows presses at once", rung(x, 0, 0, 1, 0, 1), HUNG_UP, 1, 1, 2, 1);
+        d.dueRow("in all that is heard", Ask.rung(x, 2, 0, 69, 0, 0), HUNG_UP, 69, 0, 1, 0);
+        d.dueRow("behind it", Ask.rung(x, 2, 0, 70, 0, 0), HUNG_UP, 70, 2, 2, 0);
+        d.dueRow("who knows presses at once", Ask.rung(x, 0, 0, 1, 0, 1), HUNG_UP, 1, 1, 2, 1);
         SpokenMenus y = new SpokenMenus();
         y.leaf(1, 0, 1);
         y.menu(1, 1, -1);
         y.line(1, 1, 5, 1, 2);
         y.desk(0, 1);
-        d.dueRow("who knows: the key's tick", rung(y, 0, 0, 1, 0, 1), HUNG_UP, 1, 1, 2, 1);
+        d.dueRow("who knows: the key's tick", Ask.rung(y, 0, 0, 1, 0, 1), HUNG_UP, 1, 1, 2, 1);
     }
 
     private static void patienceElsewhere() {
         SpokenMenus x = new SpokenMenus();
         x.leaf(5, 1, -1);
-        d.dueRow("ahead of served at a leaf", rung(x, 0, 0, 4, 0, 0), HUNG_UP, 4, 0, 1, 0);
-        d.dueRow("just served at a leaf", rung(x, 0, 0, 5, 0, 0), SERVED, 5, 0, 1, 0);
-        d.dueRow("ahead of ended", rung(x, 1, 0, 4, 0, 0), HUNG_UP, 4, 0, 1, 0);
-        d.dueRow("just ended", rung(x, 1, 0, 5, 0, 0), ENDED, 5, 0, 1, 0);
+        d.dueRow("ahead of served at a leaf", Ask.rung(x, 0, 0, 4, 0, 0), HUNG_UP, 4, 0, 1, 0);
+        d.dueRow("just served at a leaf", Ask.rung(x, 0, 0, 5, 0, 0), SERVED, 5, 0, 1, 0);
+        d.dueRow("ahead of ended", Ask.rung(x, 1, 0, 4, 0, 0), HUNG_UP, 4, 0, 1, 0);
+        d.dueRow("just ended", Ask.rung(x, 1, 0, 5, 0, 0), ENDED, 5, 0, 1, 0);
         SpokenMenus y = new SpokenMenus();
         y.desk(5, 1);
-        d.dueRow("ahead of served at a desk", rung(y, 0, 0, 4, 0, 0), HUNG_UP, 4, 0, 1, 0);
-        d.dueRow("ahead of ended at a desk", rung(y, 1, 0, 4, 0, 0), HUNG_UP, 4, 0, 1, 0);
+        d.dueRow("ahead of served at a desk", Ask.rung(y, 0, 0, 4, 0, 0), HUNG_UP, 4, 0, 1, 0);
+        d.dueRow("ahead of ended at a desk", Ask.rung(y, 1, 0, 4, 0, 0), HUNG_UP, 4, 0, 1, 0);
         SpokenMenus z = new SpokenMenus();
         z.asked(5, 2, 2, 1, 1);
         z.desk(0, 1);
-        d.dueRow("asked twice, just", rung(z, 0, 1, 14, 0, 0), SERVED, 14, 1, 2, 0);
-        d.dueRow("asked twice", rung(z, 0, 1, 13, 0, 0), HUNG_UP, 13, 0, 1, 0);
+        d.dueRow("asked twice, just", Ask.rung(z, 0, 1, 14, 0, 0), SERVED, 14, 1, 2, 0);
+        d.dueRow("asked twice", Ask.rung(z, 0, 1, 13, 0, 0), HUNG_UP, 13, 0, 1, 0);
     }
 
     private static void whoKnows() {
@@ -240,14 +234,14 @@ public final class CallsTest {
         x.desk(50, 1);
         x.desk(20, 1);
         x.desk(0, 1);
-        d.dueRow("by the line that does not speak of it", rung(x, 0, 0, 1000, 0, 1), SERVED, 21, 2, 2, 1);
-        d.dueRow("who listens", rung(x, 0, 0, 1000, 0, 0), SERVED, 151, 1, 2, 1);
+        d.dueRow("by the line that does not speak of it", Ask.rung(x, 0, 0, 1000, 0, 1), SERVED, 21, 2, 2, 1);
+        d.dueRow("who listens", Ask.rung(x, 0, 0, 1000, 0, 0), SERVED, 151, 1, 2, 1);
         SpokenMenus y = new SpokenMenus();
         y.menu(4, 2, 2);
         y.line(0, 3, 1, 1, 1);
         y.desk(50, 1);
         y.desk(1, 1);
-        d.dueRow("hears all, to THEN", rung(y, 0, 0, 1000, 0, 1), SERVED, 15, 2, 2, 0);
+        d.dueRow("hears all, to THEN", Ask.rung(y, 0, 0, 1000, 0, 1), SERVED, 15, 2, 2, 0);
         d.due("fewest of that", y.fewest(0, 0, 0, 0), 15);
         SpokenMenus z = new SpokenMenus();
         z.menu(1, 1, -1);
@@ -257,10 +251,10 @@ public final class CallsTest {
         z.asked(30, 2, 2, 4, 5);
         z.desk(2, 1);
         z.desk(7, 1);
-        d.dueRow("through all kinds", rung(z, 0, 31, 1000, 8, 1), SERVED, 1 + 9 + 2 + 2, 4, 5, 1);
-        d.dueRow("with a wrong number", rung(z, 0, 33, 1000, 8, 1), SERVED, 1 + 9 + 4 + 7, 5, 5, 1);
-        d.dueRow("served on the way", rung(z, 1, 33, 1000, 8, 1), SERVED, 10, 2, 3, 1);
-        d.dueRow("not at that hour", rung(z, 0, 31, 1000, 18, 1), ENDED, 2, 0, 1, 0);
+        d.dueRow("through all kinds", Ask.rung(z, 0, 31, 1000, 8, 1), SERVED, 1 + 9 + 2 + 2, 4, 5, 1);
+        d.dueRow("with a wrong number", Ask.rung(z, 0, 33, 1000, 8, 1), SERVED, 1 + 9 + 4 + 7, 5, 5, 1);
+        d.dueRow("served on the way", Ask.rung(z, 1, 33, 1000, 8, 1), SERVED, 10, 2, 3, 1);
+        d.dueRow("not at that hour", Ask.rung(z, 0, 31, 1000, 18, 1), ENDED, 2, 0, 1, 0);
     }
 
     private static void likeWays() {
@@ -270,19 +264,19 @@ public final class CallsTest {
         x.line(0, 3, 5, 0, 2);
         x.desk(2, 1);
         x.desk(2, 1);
-        d.dueRow("the lower line", rung(x, 0, 0, 1000, 0, 1), SERVED, 3, 1, 2, 1);
+        d.dueRow("the lower line", Ask.rung(x, 0, 0, 1000, 0, 1), SERVED, 3, 1, 2, 1);
         d.due("its key", x.pressed(0), 7);
         x.swap(0, 0, 1);
-        d.dueRow("the lower line, not the lower place", rung(x, 0, 0, 1000, 0, 1), SERVED, 3, 2, 2, 1);
+        d.dueRow("the lower line, not the lower place", Ask.rung(x, 0, 0, 1000, 0, 1), SERVED, 3, 2, 2, 1);
         d.due("its key", x.pressed(0), 5);
         SpokenMenus y = new SpokenMenus();
         y.menu(4, 1, 1);
         y.line(0, 2, 3, 0, 2);
         y.desk(0, 1);
         y.desk(5, 1);
-        d.dueRow("to THEN last", rung(y, 0, 0, 1000, 0, 1), SERVED, 6, 2, 2, 1);
+        d.dueRow("to THEN last", Ask.rung(y, 0, 0, 1000, 0, 1), SERVED, 6, 2, 2, 1);
         y.change(0, 0, 0, 1);
-        d.dueRow("to THEN, as it is less", rung(y, 0, 0, 1000, 0, 1), SERVED, 5, 1, 2, 0);
+        d.dueRow("to THEN, as it is less", Ask.rung(y, 0, 0, 1000, 0, 1), SERVED, 5, 1, 2, 0);
     }
 
     private static void knowingNoWay() {
@@ -291,20 +285,20 @@ public final class CallsTest {
         x.line(0, 6, 3, 1, 1);
         x.asked(10, 3, 2, -1, 2);
         x.desk(1, 2);
-        d.dueRow("there is none: as who does not know", rung(x, 0, 1, 1000, 0, 1), ENDED, 7 + 26 + 1, 2, 3, 1);
-        d.dueRow("there is one", rung(x, 1, 1, 1000, 0, 1), SERVED, 1 + 6 + 1, 2, 3, 1);
-        d.dueRow("there is one, beyond the patience", rung(x, 1, 1, 7, 0, 1), HUNG_UP, 7, 2, 3, 1);
+        d.dueRow("there is none: as who does not know", Ask.rung(x, 0, 1, 1000, 0, 1), ENDED, 7 + 26 + 1, 2, 3, 1);
+        d.dueRow("there is one", Ask.rung(x, 1, 1, 1000, 0, 1), SERVED, 1 + 6 + 1, 2, 3, 1);
+        d.dueRow("there is one, beyond the patience", Ask.rung(x, 1, 1, 7, 0, 1), HUNG_UP, 7, 2, 3, 1);
         SpokenMenus y = new SpokenMenus();
         y.menu(2, 1, -1);
         y.line(0, 6, 3, 0, 2);
         y.leaf(1, 0, -1);
         y.desk(1, 1);
-        d.dueRow("one from place 0, none from place 1", rung(y, 0, 0, 100, 0, 1), SERVED, 2, 2, 2, 1);
+        d.dueRow("one from place 0, none from place 1", Ask.rung(y, 0, 0, 100, 0, 1), SERVED, 2, 2, 2, 1);
         SpokenMenus z = new SpokenMenus();
         z.menu(2, 1, -1);
         z.line(0, 6, 3, 1, -1);
         z.desk(1, 1);
-        d.dueRow("none from place 0, one from place 1", rung(z, 0, 0, 100, 0, 1), ENDED, 7, 0, 1, 1);
+        d.dueRow("none from place 0, one from place 1", Ask.rung(z, 0, 0, 100, 0, 1), ENDED, 7, 0, 1, 1);
     }
 
     private static void latestCall() {
@@ -336,7 +330,7 @@ public final class CallsTest {
         x.menu(1, 1, -1);
         x.line(0, 1, 6, 1, 1);
         x.leaf(1, 0, 0);
-        d.dueRow("a long way", rung(x, 0, 0, 299, 0, 0), HUNG_UP, 299, 1, 200, 100);
+        d.dueRow("a long way", Ask.rung(x, 0, 0, 299, 0, 0), HUNG_UP, 299, 1, 200, 100);
         d.due("came 58", x.came(58), 0);
         d.due("came 59", x.came(59), 1);
         d.due("came 60", x.came(60), NONE);
@@ -435,11 +429,7 @@ public final class CallsTest {
         x.asked(1, 1, 1, right, wrong);
         x.desk(0, 0);
         x.leaf(1, 0, -1);
-        int[] row = new int[Math.max(0, x.trap(0, -1))];
-        for (int i = 0; i < row.length; i++) {
-            row[i] = x.trap(0, i);
-        }
-        return row;
+        return Ask.trapsOf(x, 0);
     }
 
     private static void trapsAtAsked() {
@@ -467,8 +457,8 @@ public final class CallsTest {
         d.due("the way downward", down.fewest(0, 0, 0, 0), 40);
         d.due("no trap upward", up.trap(0, -1), 0);
         d.due("no trap downward", down.trap(0, -1), 0);
-        d.dueRow("a call upward", rung(up, 0, 0, 40, 0, 1), SERVED, 40, 39, 40, 0);
-        d.dueRow("a call downward", rung(down, 0, 0, 40, 0, 0), SERVED, 40, 1, 40, 0);
+        d.dueRow("a call upward", Ask.rung(up, 0, 0, 40, 0, 1), SERVED, 40, 39, 40, 0);
+        d.dueRow("a call downward", Ask.rung(down, 0, 0, 40, 0, 0), SERVED, 40, 1, 40, 0);
         SpokenMenus end = new SpokenMenus();
         end.leaf(1, 0, 39);
         end.leaf(1, 0, -1);

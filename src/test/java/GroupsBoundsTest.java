@@ -62,26 +62,6 @@ public final class GroupsBoundsTest {
         return x;
     }
 
-    private static int[] sums(SpokenMenus x) {
-        return new int[] {x.sum(0), x.sum(1), x.sum(2), x.sum(3), x.sum(4)};
-    }
-
-    private static int[] ordered(SpokenMenus x, int place) {
-        int[] row = new int[x.place(place, 2)];
-        for (int i = 0; i < row.length; i++) {
-            row[i] = x.order(place, i);
-        }
-        return row;
-    }
-
-    private static int[] keys(SpokenMenus x, int place) {
-        int[] row = new int[x.place(place, 2)];
-        for (int i = 0; i < row.length; i++) {
-            row[i] = x.lineOf(place, i, 1);
-        }
-        return row;
-    }
-
     /** "each of so many alike (1 to 1000)", and the numbers of a CALLER; "BAD". */
     private static void groupNumbers() {
         d.bounds("group: many", 1, 1000, 1, BAD, v -> new SpokenMenus().group(v, 0, 0, 1, 0, 0));
@@ -118,7 +98,7 @@ public final class GroupsBoundsTest {
         d.due("no sum", x.sum(0), NO);
         d.due("no place to hang up at", x.hung(0), BAD);
         x.desk(0, 1);
-        d.dueRow("by the first place", sums(x), 0, 78, 0, 0, 0);
+        d.dueRow("by the first place", Ask.sums(x), 0, 78, 0, 0, 0);
     }
 
     /** "GROUPS go: how many there were." */
@@ -151,11 +131,11 @@ public final class GroupsBoundsTest {
     /** No GROUPS: nothing is summed, also behind those that went. */
     private static void sumWithoutGroups() {
         SpokenMenus x = sixLines();
-        d.dueRow("no groups", sums(x), 0, 0, 0, 0, 0);
+        d.dueRow("no groups", Ask.sums(x), 0, 0, 0, 0, 0);
         x.group(5, 0, 0, 100, 0, 0);
-        d.dueRow("one group", sums(x), 55, 5, 0, 0, 0);
+        d.dueRow("one group", Ask.sums(x), 55, 5, 0, 0, 0);
         x.noGroups();
-        d.dueRow("no groups again", sums(x), 0, 0, 0, 0, 0);
+        d.dueRow("no groups again", Ask.sums(x), 0, 0, 0, 0, 0);
     }
 
     /** "THE SUM is of all, each as told". */
@@ -163,12 +143,12 @@ public final class GroupsBoundsTest {
         SpokenMenus x = new SpokenMenus();
         x.leaf(1, 0, 0);
         x.group(1, 0, 0, 1, 0, 0);
-        d.dueRow("the least", sums(x), 1, 0, 0, 1, 0);
+        d.dueRow("the least", Ask.sums(x), 1, 0, 0, 1, 0);
         x.noGroups();
         for (int g = 0; g < 12; g++) {
             x.group(1000, 15, 99999999, 5000, 23, g % 2);
         }
-        d.dueRow("the greatest", sums(x), 60000000, 0, 0, 12000, 0);
+        d.dueRow("the greatest", Ask.sums(x), 60000000, 0, 0, 12000, 0);
         d.due("all at the leaf", x.hung(0), 12000);
     }
 
@@ -183,7 +163,7 @@ public final class GroupsBoundsTest {
         x.group(10, 0, 0, 19, 0, 0);
         x.group(100, 1, 0, 11, 12, 0);
         x.group(1000, 1, 0, 11, 13, 0);
-        d.dueRow("one of each", sums(x), 20 + 190 + 1100 + 11000, 1, 1000, 10, 100);
+        d.dueRow("one of each", Ask.sums(x), 20 + 190 + 1100 + 11000, 1, 1000, 10, 100);
     }
 
     /** "How many CALLERS of all GROUPS hang up at a PLACE. BAD." */
@@ -279,11 +259,11 @@ public final class GroupsBoundsTest {
         x.change(0, 5, 0, 1);
         d.due("sum", x.order(0, -1), 0);
         d.due("best sum", x.order(0, -2), 0);
-        d.dueRow("as they stand", ordered(x, 0), 0, 1, 2, 3, 4, 5);
+        d.dueRow("as they stand", Ask.ordered(x, 0), 0, 1, 2, 3, 4, 5);
         x.group(5, 5, 0, 5000, 0, 0);
-        d.dueRow("with a group", ordered(x, 0), 5, 0, 1, 2, 3, 4);
+        d.dueRow("with a group", Ask.ordered(x, 0), 5, 0, 1, 2, 3, 4);
         x.noGroups();
-        d.dueRow("as they stand, when it is gone", ordered(x, 0), 0, 1, 2, 3, 4, 5);
+        d.dueRow("as they stand, when it is gone", Ask.ordered(x, 0), 0, 1, 2, 3, 4, 5);
     }
 
     private static void orderOfOneLine() {
@@ -293,7 +273,7 @@ public final class GroupsBoundsTest {
         x.group(3, 0, 0, 5000, 0, 0);
         d.due("sum", x.order(0, -1), 21);
         d.due("best sum", x.order(0, -2), 21);
-        d.dueRow("alone", ordered(x, 0), 0);
+        d.dueRow("alone", Ask.ordered(x, 0), 0);
     }
 
     /** "Sum of callers times ticks of LINES up to theirs is least", with all LINES that a MENU can have. */
@@ -308,7 +288,7 @@ public final class GroupsBoundsTest {
         }
         d.due("sum", x.order(0, -1), sum);
         d.due("best sum", x.order(0, -2), best);
-        d.dueRow("from behind", ordered(x, 0), 5, 4, 3, 2, 1, 0);
+        d.dueRow("from behind", Ask.ordered(x, 0), 5, 4, 3, 2, 1, 0);
     }
 
     /** The greatest numbers: 12 GROUPS of 1000 behind six LINES of 200 ticks. */
@@ -375,10 +355,10 @@ public final class GroupsBoundsTest {
         x.line(0, 1, 1, 65535, -1);
         x.group(2, 15, 0, 5000, 0, 0);
         d.due("wish 15 at the first", x.order(0, -1), 20);
-        d.dueRow("it stays there in the best order", ordered(x, 0), 0, 1);
+        d.dueRow("it stays there in the best order", Ask.ordered(x, 0), 0, 1);
         x.group(1, 0, 0, 5000, 0, 0);
         d.due("wish 0 at the second", x.order(0, -1), 20 + 11);
-        d.dueRow("best", ordered(x, 0), 1, 0);
+        d.dueRow("best", Ask.ordered(x, 0), 1, 0);
         d.due("best sum", x.order(0, -2), 1 + 22);
         x.arrange(0);
         d.due("by the new order all are at the first", x.order(0, -1), 3);
@@ -398,9 +378,9 @@ public final class GroupsBoundsTest {
                 x.group(callers[i], i, 0, 5000, 0, 0);
             }
         }
-        d.dueRow("like ones as they stand, one just less, one just more", ordered(x, 0), 3, 0, 1, 2, 4, 5);
+        d.dueRow("like ones as they stand, one just less, one just more", Ask.ordered(x, 0), 3, 0, 1, 2, 4, 5);
         x.swap(0, 0, 5);
-        d.dueRow("no callers are last", ordered(x, 0), 3, 1, 2, 5, 4, 0);
+        d.dueRow("no callers are last", Ask.ordered(x, 0), 3, 1, 2, 5, 4, 0);
     }
 
     /** "LINES of a MENU stand in THE ORDER: 0. BAD: also not a MENU." */
@@ -422,7 +402,7 @@ public final class GroupsBoundsTest {
     private static void arrangeWithoutGroups() {
         SpokenMenus x = sixLines();
         d.due("arrange", x.arrange(0), 0);
-        d.dueRow("as they stood", keys(x, 0), 11, 10, 9, 8, 7, 6);
+        d.dueRow("as they stood", Ask.keysOf(x, 0), 11, 10, 9, 8, 7, 6);
     }
 
     private static void arrangeSixLines() {
@@ -432,10 +412,10 @@ public final class GroupsBoundsTest {
         }
         int best = x.order(0, -2);
         d.due("arrange", x.arrange(0), 0);
-        d.dueRow("from behind", keys(x, 0), 6, 7, 8, 9, 10, 11);
+        d.dueRow("from behind", Ask.keysOf(x, 0), 6, 7, 8, 9, 10, 11);
         d.due("the best sum", x.order(0, -1), best);
         d.due("again", x.arrange(0), 0);
-        d.dueRow("as before", keys(x, 0), 6, 7, 8, 9, 10, 11);
+        d.dueRow("as before", Ask.keysOf(x, 0), 6, 7, 8, 9, 10, 11);
         d.due("still full", x.line(0, 1, 0, 0, -1), FULL);
         d.due("its keys are still had", x.line(0, 1, 11, 0, -1), BAD);
     }

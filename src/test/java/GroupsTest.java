@@ -54,10 +54,6 @@ public final class GroupsTest {
         d.due("its callers", x.count(2), 5);
     }
 
-    private static int[] sums(SpokenMenus x) {
-        return new int[] {x.sum(0), x.sum(1), x.sum(2), x.sum(3), x.sum(4)};
-    }
-
     private static SpokenMenus house() {
         SpokenMenus x = new SpokenMenus();
         x.menu(5, 1, 3);
@@ -76,13 +72,13 @@ public final class GroupsTest {
         d.due("no place 0", x.sum(0), NO);
         d.due("BAD ahead of NO", x.sum(5), BAD);
         x = house();
-        d.dueRow("without groups", sums(x), 0, 0, 0, 0, 0);
+        d.dueRow("without groups", Ask.sums(x), 0, 0, 0, 0, 0);
         x.group(10, 0, 0, 100, 0, 0);
         x.group(100, 1, 0, 100, 0, 0);
         x.group(3, 0, 0, 15, 0, 0);
         x.group(7, 2, 0, 100, 12, 0);
         x.group(2, 0, 0, 100, 0, 1);
-        d.dueRow("of five groups", sums(x),
+        d.dueRow("of five groups", Ask.sums(x),
             10 * 19 + 100 * 37 + 3 * 15 + 7 * 61 + 2 * 9, 12, 100, 3, 7);
         for (int what : new int[] {-1, 5, LOW, HIGH}) {
             d.due("sum " + what, x.sum(what), BAD);
@@ -92,7 +88,7 @@ public final class GroupsTest {
         for (int g = 0; g < 12; g++) {
             y.group(1000, 0, 0, 5000, 0, 0);
         }
-        d.dueRow("the most", sums(y), 60000000, 0, 0, 12000, 0);
+        d.dueRow("the most", Ask.sums(y), 60000000, 0, 0, 12000, 0);
     }
 
     private static void hung() {
@@ -112,25 +108,17 @@ public final class GroupsTest {
         }
     }
 
-    private static int[] ordered(SpokenMenus x, int place, int many) {
-        int[] row = new int[many];
-        for (int i = 0; i < many; i++) {
-            row[i] = x.order(place, i);
-        }
-        return row;
-    }
-
     private static void order() {
         SpokenMenus x = house();
         d.due("without groups", x.order(0, -1), 0);
         d.due("without groups, best", x.order(0, -2), 0);
-        d.dueRow("as they stand", ordered(x, 0, 3), 0, 1, 2);
+        d.dueRow("as they stand", Ask.ordered(x, 0), 0, 1, 2);
         x.group(1, 0, 0, 500, 0, 0);
         x.group(4, 1, 0, 500, 0, 0);
         x.group(5, 2, 0, 500, 0, 0);
         d.due("sum", x.order(0, -1), 10 + 4 * 30 + 5 * 60);
         d.due("least sum", x.order(0, -2), 4 * 20 + 5 * 50 + 60);
-        d.dueRow("best", ordered(x, 0, 3), 1, 2, 0);
+        d.dueRow("best", Ask.ordered(x, 0), 1, 2, 0);
         d.due("no line 3", x.order(0, 3), NONE);
         d.due("no line 6", x.order(0, 6), NONE);
         d.due("no line at the most", x.order(0, HIGH), NONE);
@@ -162,7 +150,7 @@ public final class GroupsTest {
         d.due("of whose wish no line speaks", x.order(1, -1), 10);
         x.group(2, 1, 0, 1, 8, 0);
         d.due("who hangs up at it", x.order(1, -1), 10 + 2 * 14);
-        d.dueRow("at the first line that speaks of it", ordered(x, 1, 2), 1, 0);
+        d.dueRow("at the first line that speaks of it", Ask.ordered(x, 1), 1, 0);
         d.due("by the lines there are", x.order(1, -2), 2 * 4 + 14);
         SpokenMenus y = new SpokenMenus();
         y.leaf(10, 0, 1);
@@ -184,11 +172,11 @@ public final class GroupsTest {
         x.group(3, 1, 0, 500, 0, 0);
         x.group(2, 3, 0, 500, 0, 0);
         x.group(1, 4, 0, 500, 0, 0);
-        d.dueRow("like ones and those without callers as they stand", ordered(x, 0, 6), 1, 3, 4, 0, 2, 5);
+        d.dueRow("like ones and those without callers as they stand", Ask.ordered(x, 0), 1, 3, 4, 0, 2, 5);
         d.due("sum", x.order(0, -1), 3 * 15 + 2 * 27 + 29);
         d.due("least sum", x.order(0, -2), 3 * 6 + 2 * 10 + 12);
         d.due("arrange", x.arrange(0), 0);
-        d.dueRow("arranged already", ordered(x, 0, 6), 0, 1, 2, 3, 4, 5);
+        d.dueRow("arranged already", Ask.ordered(x, 0), 0, 1, 2, 3, 4, 5);
         for (int i = 0; i < 6; i++) {
             d.due("line " + i, x.lineOf(0, i, 1), new int[] {1, 3, 4, 0, 2, 5}[i]);
         }

@@ -38,17 +38,9 @@ public final class PlacesBoundsTest {
         d.end();
     }
 
-    private static SpokenMenus house(Call... calls) {
-        SpokenMenus x = new SpokenMenus();
-        for (Call call : calls) {
-            call.on(x);
-        }
-        return x;
-    }
-
     /** One place of each kind, by the numbers of the kinds. */
     private static SpokenMenus ofEachKind() {
-        return house(Call.of("menu", 1, 1, -1), Call.of("desk", 0, 0), Call.of("leaf", 1, 0, -1),
+        return Ask.house(Call.of("menu", 1, 1, -1), Call.of("desk", 0, 0), Call.of("leaf", 1, 0, -1),
             Call.of("clock", 0, 0, -1, -1), Call.of("asked", 1, 1, 1, -1, -1));
     }
 
@@ -68,22 +60,6 @@ public final class PlacesBoundsTest {
             x.desk(p, p);
         }
         return x;
-    }
-
-    private static int[] told(SpokenMenus x, int p) {
-        return new int[] {x.place(p, 0), x.place(p, 1), x.place(p, 2), x.place(p, 3), x.place(p, 4), x.place(p, 5)};
-    }
-
-    private static int[] lineTold(SpokenMenus x, int place, int i) {
-        return new int[] {x.lineOf(place, i, 0), x.lineOf(place, i, 1), x.lineOf(place, i, 2), x.lineOf(place, i, 3)};
-    }
-
-    private static int[] keysOf(SpokenMenus x, int place) {
-        int[] keys = new int[x.place(place, 2)];
-        for (int i = 0; i < keys.length; i++) {
-            keys[i] = x.lineOf(place, i, 1);
-        }
-        return keys;
     }
 
     private static int ticksOfRing(SpokenMenus x, int wish) {
@@ -170,16 +146,16 @@ public final class PlacesBoundsTest {
 
     /** The least and the greatest WAIT, TIMES and ticks are those that are heard. */
     private static void menuTakesEffect() {
-        d.due("wait 1, once", ticksOfRing(house(Call.of("menu", 1, 1, -1)), 0), 1);
-        d.due("wait 100, three times", ticksOfRing(house(Call.of("menu", 100, 3, -1)), 0), 300);
+        d.due("wait 1, once", ticksOfRing(Ask.house(Call.of("menu", 1, 1, -1)), 0), 1);
+        d.due("wait 100, three times", ticksOfRing(Ask.house(Call.of("menu", 100, 3, -1)), 0), 300);
         Call[] six = new Call[7];
         six[0] = Call.of("menu", 100, 3, -1);
         for (int i = 0; i < 6; i++) {
             six[i + 1] = Call.of("line", 0, 200, i, 0, -1);
         }
-        d.due("the longest menu", ticksOfRing(house(six), 0), 3900);
+        d.due("the longest menu", ticksOfRing(Ask.house(six), 0), 3900);
         d.due("the shortest line and its key",
-            ticksOfRing(house(Call.of("menu", 1, 1, -1), Call.of("line", 0, 1, 0, 1, -1)), 0), 2);
+            ticksOfRing(Ask.house(Call.of("menu", 1, 1, -1), Call.of("line", 0, 1, 0, 1, -1)), 0), 2);
     }
 
     /** "A MENU without LINES." */
@@ -206,8 +182,8 @@ public final class PlacesBoundsTest {
         SpokenMenus x = menuOf(0);
         x.line(0, 200, 11, 65535, 39);
         x.line(0, 1, 0, 0, -1);
-        d.dueRow("the greatest line", lineTold(x, 0, 0), 200, 11, 65535, 39);
-        d.dueRow("the least line, behind it", lineTold(x, 0, 1), 1, 0, 0, -1);
+        d.dueRow("the greatest line", Ask.lineTold(x, 0, 0), 200, 11, 65535, 39);
+        d.dueRow("the least line, behind it", Ask.lineTold(x, 0, 1), 1, 0, 0, -1);
     }
 
     /** "BAD: also not a MENU"; "there is no such thing". */
@@ -230,7 +206,7 @@ public final class PlacesBoundsTest {
     /** "a KEY (0 to 11, each once)"; "BAD: also .. a KEY that it has". */
     private static void keysOnce() {
         for (int key = 0; key <= 11; key++) {
-            SpokenMenus x = house(Call.of("menu", 1, 1, -1), Call.of("menu", 1, 1, -1));
+            SpokenMenus x = Ask.house(Call.of("menu", 1, 1, -1), Call.of("menu", 1, 1, -1));
             d.due("key " + key, x.line(0, 1, key, 0, -1), 1);
             d.due("key " + key + " again", x.line(0, 1, key, 0, -1), BAD);
             d.due("key " + key + " of another menu", x.line(1, 1, key, 0, -1), 1);
@@ -252,7 +228,7 @@ public final class PlacesBoundsTest {
         }
         d.due("a seventh", x.line(0, 1, 0, 0, -1), FULL);
         d.due("an eighth", x.line(0, 1, 1, 0, -1), FULL);
-        d.dueRow("in order", keysOf(x, 0), 11, 10, 9, 8, 7, 6);
+        d.dueRow("in order", Ask.keysOf(x, 0), 11, 10, 9, 8, 7, 6);
         d.due("BAD ahead of FULL: the first key", x.line(0, 1, 11, 0, -1), BAD);
         d.due("BAD ahead of FULL: the last key", x.line(0, 1, 6, 0, -1), BAD);
         d.due("BAD ahead of FULL: ticks", x.line(0, 201, 0, 0, -1), BAD);
@@ -267,12 +243,12 @@ public final class PlacesBoundsTest {
     private static void deskNumbers() {
         d.bounds("desk: ticks", 0, 500, 0, BAD, v -> new SpokenMenus().desk(v, 0));
         d.bounds("desk: wishes", 0, 65535, 0, BAD, v -> new SpokenMenus().desk(0, v));
-        d.due("no tick at a desk", ticksOfRing(house(Call.of("desk", 0, 1)), 0), 0);
-        d.due("500 ticks at a desk", ticksOfRing(house(Call.of("desk", 500, 1)), 0), 500);
+        d.due("no tick at a desk", ticksOfRing(Ask.house(Call.of("desk", 0, 1)), 0), 0);
+        d.due("500 ticks at a desk", ticksOfRing(Ask.house(Call.of("desk", 500, 1)), 0), 500);
         for (int wish = 0; wish <= 15; wish++) {
-            d.due("served alone: wish " + wish, house(Call.of("desk", 0, 1 << wish)).ring(wish, 0, 1, 0, 0), 0);
+            d.due("served alone: wish " + wish, Ask.house(Call.of("desk", 0, 1 << wish)).ring(wish, 0, 1, 0, 0), 0);
             d.due("not served alone: wish " + wish,
-                house(Call.of("desk", 0, 65535 - (1 << wish))).ring(wish, 0, 1, 0, 0), ENDED);
+                Ask.house(Call.of("desk", 0, 65535 - (1 << wish))).ring(wish, 0, 1, 0, 0), ENDED);
         }
     }
 
@@ -281,12 +257,12 @@ public final class PlacesBoundsTest {
         d.bounds("leaf: ticks", 1, 200, 0, BAD, v -> new SpokenMenus().leaf(v, 0, -1));
         d.bounds("leaf: wishes", 0, 65535, 0, BAD, v -> new SpokenMenus().leaf(1, v, -1));
         d.bounds("leaf: then", -1, 39, 0, BAD, v -> new SpokenMenus().leaf(1, 0, v));
-        d.due("1 tick at a leaf", ticksOfRing(house(Call.of("leaf", 1, 1, -1)), 0), 1);
-        d.due("200 ticks at a leaf", ticksOfRing(house(Call.of("leaf", 200, 0, -1)), 0), 200);
+        d.due("1 tick at a leaf", ticksOfRing(Ask.house(Call.of("leaf", 1, 1, -1)), 0), 1);
+        d.due("200 ticks at a leaf", ticksOfRing(Ask.house(Call.of("leaf", 200, 0, -1)), 0), 200);
         for (int wish = 0; wish <= 15; wish++) {
-            d.due("served alone: wish " + wish, house(Call.of("leaf", 1, 1 << wish, -1)).ring(wish, 0, 1, 0, 0), 0);
+            d.due("served alone: wish " + wish, Ask.house(Call.of("leaf", 1, 1 << wish, -1)).ring(wish, 0, 1, 0, 0), 0);
             d.due("not served alone: wish " + wish,
-                house(Call.of("leaf", 1, 65535 - (1 << wish), -1)).ring(wish, 0, 1, 0, 0), ENDED);
+                Ask.house(Call.of("leaf", 1, 65535 - (1 << wish), -1)).ring(wish, 0, 1, 0, 0), ENDED);
         }
     }
 
@@ -305,8 +281,8 @@ public final class PlacesBoundsTest {
         d.bounds("asked: tries", 1, 3, 0, BAD, v -> new SpokenMenus().asked(1, 1, v, -1, -1));
         d.bounds("asked: right", -1, 39, 0, BAD, v -> new SpokenMenus().asked(1, 1, 1, v, -1));
         d.bounds("asked: wrong", -1, 39, 0, BAD, v -> new SpokenMenus().asked(1, 1, 1, -1, v));
-        SpokenMenus least = house(Call.of("asked", 1, 1, 1, -1, -1));
-        SpokenMenus greatest = house(Call.of("asked", 200, 8, 3, -1, -1));
+        SpokenMenus least = Ask.house(Call.of("asked", 1, 1, 1, -1, -1));
+        SpokenMenus greatest = Ask.house(Call.of("asked", 200, 8, 3, -1, -1));
         d.due("the shortest, right", ticksOfRing(least, 0), 2);
         d.due("the longest, right", ticksOfRing(greatest, 0), 208);
         greatest.ring(0, 1, 5000, 0, 0);
@@ -322,11 +298,11 @@ public final class PlacesBoundsTest {
             Call.of("clock", 5, 6, 1, -1), Call.of("asked", 1, 1, 1, -1, 1),
         };
         for (Call call : toNone) {
-            d.due(call + " and none", house(call, Call.of("desk", 0, 1)).ring(0, 0, 100, 0, 0), ENDED);
+            d.due(call + " and none", Ask.house(call, Call.of("desk", 0, 1)).ring(0, 0, 100, 0, 0), ENDED);
         }
         d.due("a wrong number and none",
-            house(Call.of("asked", 1, 1, 1, 1, -1), Call.of("desk", 0, 1)).ring(0, 1, 100, 0, 0), ENDED);
-        d.due("a line and none", house(Call.of("menu", 1, 1, 1), Call.of("line", 0, 1, 0, 1, -1), Call.of("desk", 0, 1))
+            Ask.house(Call.of("asked", 1, 1, 1, 1, -1), Call.of("desk", 0, 1)).ring(0, 1, 100, 0, 0), ENDED);
+        d.due("a line and none", Ask.house(Call.of("menu", 1, 1, 1), Call.of("line", 0, 1, 0, 1, -1), Call.of("desk", 0, 1))
             .ring(0, 0, 100, 0, 0), ENDED);
         for (int next : new int[] {1, 39}) {
             Call[] toLater = {
@@ -334,7 +310,7 @@ public final class PlacesBoundsTest {
                 Call.of("clock", 5, 6, -1, next), Call.of("asked", 1, 1, 1, next, -1),
             };
             for (Call call : toLater) {
-                SpokenMenus x = house(call);
+                SpokenMenus x = Ask.house(call);
                 d.due(call + " is not there yet", x.ring(0, 0, 100, 0, 0), ENDED);
                 d.due("the last place that is", x.call(1), 0);
                 for (int p = 1; p < next; p++) {
@@ -353,7 +329,7 @@ public final class PlacesBoundsTest {
         d.bounds("change: ticks", 1, 200, 15, NOT, v -> menuOf(6).change(0, 5, 0, v));
         d.bounds("change: wishes", 0, 65535, 32, NOT, v -> menuOf(6).change(0, 5, 1, v));
         d.bounds("change: next", -1, 39, 5, NOT, v -> menuOf(6).change(0, 5, 2, v));
-        d.bounds("change: what", 0, 2, 1, NOT, v -> house(Call.of("menu", 1, 1, -1), Call.of("line", 0, 1, 0, 1, 1))
+        d.bounds("change: what", 0, 2, 1, NOT, v -> Ask.house(Call.of("menu", 1, 1, -1), Call.of("line", 0, 1, 0, 1, 1))
             .change(0, 0, v, 1));
         d.bounds("change: place", 0, 0, 10, NOT, v -> menuOf(1).change(v, 0, 0, 1));
         for (int lines = 1; lines <= 6; lines++) {
@@ -375,15 +351,15 @@ public final class PlacesBoundsTest {
         x.change(0, 1, 0, 200);
         x.change(0, 1, 1, 65535);
         x.change(0, 1, 2, 39);
-        d.dueRow("greatest", lineTold(x, 0, 1), 200, 1, 65535, 39);
+        d.dueRow("greatest", Ask.lineTold(x, 0, 1), 200, 1, 65535, 39);
         d.due("what the greatest ticks were", x.change(0, 1, 0, 1), 200);
         d.due("what the greatest wishes were", x.change(0, 1, 1, 0), 65535);
         d.due("what the greatest next was", x.change(0, 1, 2, -1), 39);
-        d.dueRow("least", lineTold(x, 0, 1), 1, 1, 0, -1);
+        d.dueRow("least", Ask.lineTold(x, 0, 1), 1, 1, 0, -1);
         d.due("what no next was", x.change(0, 1, 2, 0), -1);
         d.due("to what it is", x.change(0, 1, 2, 0), 0);
-        d.dueRow("the line ahead", lineTold(x, 0, 0), 10, 0, 1, 0);
-        d.dueRow("the line behind", lineTold(x, 0, 2), 12, 2, 4, 2);
+        d.dueRow("the line ahead", Ask.lineTold(x, 0, 0), 10, 0, 1, 0);
+        d.dueRow("the line behind", Ask.lineTold(x, 0, 2), 12, 2, 4, 2);
     }
 
     /** "LINES i and j of a MENU change places: 0. BAD." */
@@ -398,12 +374,12 @@ public final class PlacesBoundsTest {
         }
         SpokenMenus x = menuOf(6);
         x.swap(0, 0, 5);
-        d.dueRow("the first and the last", keysOf(x, 0), 5, 1, 2, 3, 4, 0);
-        d.dueRow("the whole line moved", lineTold(x, 0, 0), 15, 5, 32, 5);
+        d.dueRow("the first and the last", Ask.keysOf(x, 0), 5, 1, 2, 3, 4, 0);
+        d.dueRow("the whole line moved", Ask.lineTold(x, 0, 0), 15, 5, 32, 5);
         x.swap(0, 5, 4);
-        d.dueRow("the greater first", keysOf(x, 0), 5, 1, 2, 3, 0, 4);
+        d.dueRow("the greater first", Ask.keysOf(x, 0), 5, 1, 2, 3, 0, 4);
         d.due("one with itself", x.swap(0, 2, 2), 0);
-        d.dueRow("as before", keysOf(x, 0), 5, 1, 2, 3, 0, 4);
+        d.dueRow("as before", Ask.keysOf(x, 0), 5, 1, 2, 3, 0, 4);
     }
 
     /** "Of a PLACE: 0 .. 5 .. BAD: -1000." */
@@ -420,19 +396,19 @@ public final class PlacesBoundsTest {
 
     /** "1 its ticks (MENU: WAIT; CLOCK: 0), 2 LINES (else 0), 3 .. (.. DESK: -1), 4 the other one (-1, if there is none), 5 WISHES SERVED (0)." */
     private static void placeOfEachKind() {
-        SpokenMenus x = house(Call.of("menu", 100, 3, 39), Call.of("desk", 500, 65535), Call.of("leaf", 200, 65535, 39),
+        SpokenMenus x = Ask.house(Call.of("menu", 100, 3, 39), Call.of("desk", 500, 65535), Call.of("leaf", 200, 65535, 39),
             Call.of("clock", 23, 22, 39, 38), Call.of("asked", 200, 8, 3, 39, 38));
-        d.dueRow("the greatest menu", told(x, 0), 0, 100, 0, 39, -1, 0);
-        d.dueRow("the greatest desk", told(x, 1), 1, 500, 0, -1, -1, 65535);
-        d.dueRow("the greatest leaf", told(x, 2), 2, 200, 0, 39, -1, 65535);
-        d.dueRow("the greatest clock", told(x, 3), 3, 0, 0, 39, 38, 0);
-        d.dueRow("the greatest asked", told(x, 4), 4, 200, 0, 39, 38, 0);
+        d.dueRow("the greatest menu", Ask.told(x, 0), 0, 100, 0, 39, -1, 0);
+        d.dueRow("the greatest desk", Ask.told(x, 1), 1, 500, 0, -1, -1, 65535);
+        d.dueRow("the greatest leaf", Ask.told(x, 2), 2, 200, 0, 39, -1, 65535);
+        d.dueRow("the greatest clock", Ask.told(x, 3), 3, 0, 0, 39, 38, 0);
+        d.dueRow("the greatest asked", Ask.told(x, 4), 4, 200, 0, 39, 38, 0);
         SpokenMenus y = ofEachKind();
-        d.dueRow("the least menu", told(y, 0), 0, 1, 0, -1, -1, 0);
-        d.dueRow("the least desk", told(y, 1), 1, 0, 0, -1, -1, 0);
-        d.dueRow("the least leaf", told(y, 2), 2, 1, 0, -1, -1, 0);
-        d.dueRow("the least clock", told(y, 3), 3, 0, 0, -1, -1, 0);
-        d.dueRow("the least asked", told(y, 4), 4, 1, 0, -1, -1, 0);
+        d.dueRow("the least menu", Ask.told(y, 0), 0, 1, 0, -1, -1, 0);
+        d.dueRow("the least desk", Ask.told(y, 1), 1, 0, 0, -1, -1, 0);
+        d.dueRow("the least leaf", Ask.told(y, 2), 2, 1, 0, -1, -1, 0);
+        d.dueRow("the least clock", Ask.told(y, 3), 3, 0, 0, -1, -1, 0);
+        d.dueRow("the least asked", Ask.told(y, 4), 4, 1, 0, -1, -1, 0);
         for (int lines = 0; lines <= 6; lines++) {
             d.due("a menu of " + lines, menuOf(lines).place(0, 2), lines);
         }
@@ -445,13 +421,13 @@ public final class PlacesBoundsTest {
             d.due("line " + i + " of 6", menuOf(6).lineOf(0, i, 0), NOT);
         }
         d.bounds("lineOf: place", 0, 0, 10, NOT, v -> menuOf(1).lineOf(v, 0, 0));
-        d.bounds("lineOf: what", 0, 3, 7, NOT, v -> house(Call.of("menu", 1, 1, -1), Call.of("line", 0, 7, 7, 7, 7))
+        d.bounds("lineOf: what", 0, 3, 7, NOT, v -> Ask.house(Call.of("menu", 1, 1, -1), Call.of("line", 0, 7, 7, 7, 7))
             .lineOf(0, 0, v));
         for (int kind = 1; kind <= 4; kind++) {
             d.due("kind " + kind + " has no line", ofEachKind().lineOf(kind, 0, 0), NOT);
         }
         for (int i = 0; i < 6; i++) {
-            d.dueRow("line " + i, lineTold(menuOf(6), 0, i), 10 + i, i, 1 << i, i);
+            d.dueRow("line " + i, Ask.lineTold(menuOf(6), 0, i), 10 + i, i, 1 << i, i);
         }
     }
 

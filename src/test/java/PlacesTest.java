@@ -195,22 +195,18 @@ public final class PlacesTest {
         return x;
     }
 
-    private static int[] linesOf(SpokenMenus x, int place, int i) {
-        return new int[] {x.lineOf(place, i, 0), x.lineOf(place, i, 1), x.lineOf(place, i, 2), x.lineOf(place, i, 3)};
-    }
-
     private static void change() {
         SpokenMenus x = twoLines();
         d.due("change ticks", x.change(0, 0, 0, 200), 10);
         d.due("change wishes", x.change(0, 0, 1, 65535), 5);
         d.due("change next", x.change(0, 0, 2, 39), 1);
-        d.dueRow("changed line", linesOf(x, 0, 0), 200, 7, 65535, 39);
+        d.dueRow("changed line", Ask.lineTold(x, 0, 0), 200, 7, 65535, 39);
         d.due("change to the least ticks", x.change(0, 0, 0, 1), 200);
         d.due("change to no wishes", x.change(0, 0, 1, 0), 65535);
         d.due("change to no next", x.change(0, 0, 2, -1), 39);
         d.due("what next was: none", x.change(0, 1, 2, 0), -1);
-        d.dueRow("changed line again", linesOf(x, 0, 0), 1, 7, 0, -1);
-        d.dueRow("the other line", linesOf(x, 0, 1), 20, 8, 6, 0);
+        d.dueRow("changed line again", Ask.lineTold(x, 0, 0), 1, 7, 0, -1);
+        d.dueRow("the other line", Ask.lineTold(x, 0, 1), 20, 8, 6, 0);
         int[][] bad = {
             {-1, 0, 0, 5}, {1, 0, 0, 5}, {2, 0, 0, 5}, {HIGH, 0, 0, 5},
             {0, -1, 0, 5}, {0, 2, 0, 5}, {0, 6, 0, 5}, {0, HIGH, 0, 5}, {0, LOW, 0, 5},
@@ -220,25 +216,21 @@ public final class PlacesTest {
         for (int[] b : bad) {
             d.due("change " + b[0] + " " + b[1] + " " + b[2] + " " + b[3], x.change(b[0], b[1], b[2], b[3]), NOT);
         }
-        d.dueRow("after BAD changes", linesOf(x, 0, 0), 1, 7, 0, -1);
+        d.dueRow("after BAD changes", Ask.lineTold(x, 0, 0), 1, 7, 0, -1);
     }
 
     private static void swap() {
         SpokenMenus x = twoLines();
         d.due("swap", x.swap(0, 0, 1), 0);
-        d.dueRow("first behind swap", linesOf(x, 0, 0), 20, 8, 6, -1);
-        d.dueRow("second behind swap", linesOf(x, 0, 1), 10, 7, 5, 1);
+        d.dueRow("first behind swap", Ask.lineTold(x, 0, 0), 20, 8, 6, -1);
+        d.dueRow("second behind swap", Ask.lineTold(x, 0, 1), 10, 7, 5, 1);
         d.due("swap with itself", x.swap(0, 1, 1), 0);
-        d.dueRow("second behind that", linesOf(x, 0, 1), 10, 7, 5, 1);
+        d.dueRow("second behind that", Ask.lineTold(x, 0, 1), 10, 7, 5, 1);
         int[][] bad = {{-1, 0, 1}, {1, 0, 0}, {2, 0, 0}, {0, -1, 0}, {0, 0, -1}, {0, 2, 0}, {0, 0, 2}, {0, HIGH, LOW}, {HIGH, 0, 0}};
         for (int[] b : bad) {
             d.due("swap " + b[0] + " " + b[1] + " " + b[2], x.swap(b[0], b[1], b[2]), BAD);
         }
-        d.dueRow("after BAD swaps", linesOf(x, 0, 0), 20, 8, 6, -1);
-    }
-
-    private static int[] told(SpokenMenus x, int p) {
-        return new int[] {x.place(p, 0), x.place(p, 1), x.place(p, 2), x.place(p, 3), x.place(p, 4), x.place(p, 5)};
+        d.dueRow("after BAD swaps", Ask.lineTold(x, 0, 0), 20, 8, 6, -1);
     }
 
     private static void place() {
@@ -246,11 +238,11 @@ public final class PlacesTest {
         x.leaf(11, 12, 13);
         x.clock(1, 2, 14, 15);
         x.asked(16, 5, 2, 17, 18);
-        d.dueRow("a menu", told(x, 0), 0, 9, 2, 3, -1, 0);
-        d.dueRow("a desk", told(x, 1), 1, 4, 0, -1, -1, 7);
-        d.dueRow("a leaf", told(x, 2), 2, 11, 0, 13, -1, 12);
-        d.dueRow("a clock", told(x, 3), 3, 0, 0, 14, 15, 0);
-        d.dueRow("asked", told(x, 4), 4, 16, 0, 17, 18, 0);
+        d.dueRow("a menu", Ask.told(x, 0), 0, 9, 2, 3, -1, 0);
+        d.dueRow("a desk", Ask.told(x, 1), 1, 4, 0, -1, -1, 7);
+        d.dueRow("a leaf", Ask.told(x, 2), 2, 11, 0, 13, -1, 12);
+        d.dueRow("a clock", Ask.told(x, 3), 3, 0, 0, 14, 15, 0);
+        d.dueRow("asked", Ask.told(x, 4), 4, 16, 0, 17, 18, 0);
         for (int p : new int[] {-1, 5, 40, LOW, HIGH}) {
             d.due("place " + p, x.place(p, 0), NOT);
         }
@@ -261,8 +253,8 @@ public final class PlacesTest {
 
     private static void lineOf() {
         SpokenMenus x = twoLines();
-        d.dueRow("line 0", linesOf(x, 0, 0), 10, 7, 5, 1);
-        d.dueRow("line 1", linesOf(x, 0, 1), 20, 8, 6, -1);
+        d.dueRow("line 0", Ask.lineTold(x, 0, 0), 10, 7, 5, 1);
+        d.dueRow("line 1", Ask.lineTold(x, 0, 1), 20, 8, 6, -1);
         int[][] bad = {{-1, 0, 0}, {1, 0, 0}, {2, 0, 0}, {0, -1, 0}, {0, 2, 0}, {0, 6, 0}, {0, 0, -1}, {0, 0, 4}, {0, HIGH, 0}, {LOW, LOW, LOW}};
         for (int[] b : bad) {
             d.due("lineOf " + b[0] + " " + b[1] + " " + b[2], x.lineOf(b[0], b[1], b[2]), NOT);

@@ -47,18 +47,6 @@ public final class PlansBoundsTest {
         return x;
     }
 
-    private static int[] linesOf(SpokenMenus x, int set) {
-        int many = 0;
-        while (many < 7 && x.planned(set, many) >= 0) {
-            many++;
-        }
-        int[] row = new int[many];
-        for (int j = 0; j < many; j++) {
-            row[j] = x.planned(set, j);
-        }
-        return row;
-    }
-
     /** "WISH k (0 to 7) of plans"; "ticks of its LINE (1 to 200) and callers (0 to 1000)". */
     private static void wishNumbers() {
         d.bounds("wish: k", 0, 7, 0, BAD, v -> new SpokenMenus().wish(v, 1, 0));
@@ -126,7 +114,7 @@ public final class PlansBoundsTest {
         x.wish(0, 6, 7);
         for (int breadth = 2; breadth <= 6; breadth++) {
             d.due("its cost", x.plan(1, 1, breadth), 42);
-            d.dueRow("its line", linesOf(x, 1), 1);
+            d.dueRow("its line", Ask.planLines(x, 1), 1);
             d.due("no second line", x.planned(1, 1), NONE);
         }
     }
@@ -136,7 +124,7 @@ public final class PlansBoundsTest {
         SpokenMenus x = alike(1, 1);
         for (int breadth = 2; breadth <= 6; breadth++) {
             x.plan(8, 200, breadth);
-            int[] lines = linesOf(x, 255);
+            int[] lines = Ask.planLines(x, 255);
             d.due("lines of all, breadth " + breadth, lines.length, breadth);
             d.due("none at the breadth", x.planned(255, breadth), NONE);
             int all = 0;
@@ -147,9 +135,9 @@ public final class PlansBoundsTest {
             d.due("all wishes", all, 255);
         }
         x.plan(6, 200, 6);
-        d.dueRow("six wishes, six lines", linesOf(x, 63), 1, 2, 4, 8, 16, 32);
+        d.dueRow("six wishes, six lines", Ask.planLines(x, 63), 1, 2, 4, 8, 16, 32);
         x.plan(5, 200, 6);
-        d.dueRow("fewer wishes than the breadth", linesOf(x, 31), 1, 2, 4, 8, 16);
+        d.dueRow("fewer wishes than the breadth", Ask.planLines(x, 31), 1, 2, 4, 8, 16);
     }
 
     /** One WISH more than the BREADTH makes a group; as many make none. */
@@ -181,27 +169,27 @@ public final class PlansBoundsTest {
         x.wish(0, 2, 1);
         x.wish(1, 4, 2);
         d.due("both orders cost the same", x.plan(2, 1, 2), 14);
-        d.dueRow("the lesser first", linesOf(x, 3), 1, 2);
+        d.dueRow("the lesser first", Ask.planLines(x, 3), 1, 2);
         x.wish(1, 4, 3);
         x.plan(2, 1, 2);
-        d.dueRow("one caller more", linesOf(x, 3), 2, 1);
+        d.dueRow("one caller more", Ask.planLines(x, 3), 2, 1);
         SpokenMenus y = alike(5, 0);
         y.plan(8, 5, 2);
-        d.dueRow("all cost nothing", linesOf(y, 255), 1, 254);
-        d.dueRow("in each group", linesOf(y, 254), 2, 252);
+        d.dueRow("all cost nothing", Ask.planLines(y, 255), 1, 254);
+        d.dueRow("in each group", Ask.planLines(y, 254), 2, 252);
     }
 
     /** "then the second, and so on." */
     private static void lesserSecond() {
         SpokenMenus x = alike(5, 0);
         x.plan(4, 5, 3);
-        d.dueRow("second and third", linesOf(x, 15), 1, 2, 12);
+        d.dueRow("second and third", Ask.planLines(x, 15), 1, 2, 12);
         x.plan(8, 5, 6);
-        d.dueRow("to the sixth", linesOf(x, 255), 1, 2, 4, 8, 16, 224);
+        d.dueRow("to the sixth", Ask.planLines(x, 255), 1, 2, 4, 8, 16, 224);
         SpokenMenus y = new SpokenMenus();
         y.wish(0, 5, 5);
         y.plan(3, 5, 2);
-        d.dueRow("callers first, then all that is left", linesOf(y, 7), 1, 6);
+        d.dueRow("callers first, then all that is left", Ask.planLines(y, 7), 1, 6);
     }
 
     /** "NO: there is none."; "Of several the first": BAD stands ahead of NO. */
@@ -269,21 +257,21 @@ public final class PlansBoundsTest {
         x.plan(2, 200, 2);
         d.due("a lesser plan behind a greater", x.planned(4, 0), BAD);
         x.wish(1, 1, 1000);
-        d.dueRow("a wish told later", linesOf(x, 3), 1, 2);
+        d.dueRow("a wish told later", Ask.planLines(x, 3), 1, 2);
         x.plan(3, 0, 2);
-        d.dueRow("a refused plan", linesOf(x, 3), 1, 2);
+        d.dueRow("a refused plan", Ask.planLines(x, 3), 1, 2);
         x.plan(2, 200, 2);
-        d.dueRow("the plan anew", linesOf(x, 3), 2, 1);
+        d.dueRow("the plan anew", Ask.planLines(x, 3), 2, 1);
         x.plan(1, 200, 2);
-        d.dueRow("a plan for one", linesOf(x, 1), 1);
+        d.dueRow("a plan for one", Ask.planLines(x, 1), 1);
         x.plan(2, 200, 2);
         d.due("no set of one then", x.planned(1, 0), NONE);
         SpokenMenus y = alike(5, 0);
         y.plan(8, 5, 6);
         y.plan(8, 5, 2);
-        d.dueRow("a narrow plan behind a broad one", linesOf(y, 255), 1, 254);
+        d.dueRow("a narrow plan behind a broad one", Ask.planLines(y, 255), 1, 254);
         y.plan(8, 5, 6);
-        d.dueRow("a broad plan behind a narrow one", linesOf(y, 255), 1, 2, 4, 8, 16, 224);
+        d.dueRow("a broad plan behind a narrow one", Ask.planLines(y, 255), 1, 2, 4, 8, 16, 224);
     }
 
     /** "How many: 0 PLACES, 1 GROUPS, 2 CALLERS of all GROUPS. BAD." */

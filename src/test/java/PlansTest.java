@@ -63,33 +63,21 @@ public final class PlansTest {
     private static void plan() {
         SpokenMenus x = fourWishes();
         d.due("all in one menu", x.plan(4, 200, 4), 10 * (10 + 6 + 3 + 1));
-        d.dueRow("its lines", linesOf(x, 15), 8, 4, 2, 1);
+        d.dueRow("its lines", Ask.planLines(x, 15), 8, 4, 2, 1);
         d.due("a broad one is the same", x.plan(4, 200, 6), 200);
-        d.dueRow("its lines", linesOf(x, 15), 8, 4, 2, 1);
+        d.dueRow("its lines", Ask.planLines(x, 15), 8, 4, 2, 1);
         d.due("three lines: one is a group", x.plan(4, 50, 3), 10 * 10 + 10 * 6 + 50 * 3 + 10 * 3 + 10);
-        d.dueRow("its lines", linesOf(x, 15), 8, 4, 3);
-        d.dueRow("the group's", linesOf(x, 3), 2, 1);
+        d.dueRow("its lines", Ask.planLines(x, 15), 8, 4, 3);
+        d.dueRow("the group's", Ask.planLines(x, 3), 2, 1);
         d.due("a short group ahead", x.plan(4, 5, 3), 5 * 10 + 10 * 6 + 10 * 2 + 10 * 4 + 10);
-        d.dueRow("its lines", linesOf(x, 15), 5, 8, 2);
+        d.dueRow("its lines", Ask.planLines(x, 15), 5, 8, 2);
         d.due("two of them", x.plan(2, 1, 2), 40);
         x.wish(0, 10, 100);
         x.wish(1, 200, 50);
         x.wish(2, 10, 100);
         d.due("two lines", x.plan(3, 3, 2), 3 * 250 + (10 * 150 + 200 * 50) + 10 * 100);
-        d.dueRow("its lines, not 6 and 1", linesOf(x, 7), 3, 4);
-        d.dueRow("the group's", linesOf(x, 3), 1, 2);
-    }
-
-    private static int[] linesOf(SpokenMenus x, int set) {
-        int many = 0;
-        while (many < 7 && x.planned(set, many) >= 0) {
-            many++;
-        }
-        int[] row = new int[many];
-        for (int j = 0; j < many; j++) {
-            row[j] = x.planned(set, j);
-        }
-        return row;
+        d.dueRow("its lines, not 6 and 1", Ask.planLines(x, 7), 3, 4);
+        d.dueRow("the group's", Ask.planLines(x, 3), 1, 2);
     }
 
     private static void notTold() {
@@ -102,26 +90,26 @@ public final class PlansTest {
         x = new SpokenMenus();
         x.wish(1, 1, 5);
         d.due("a wish that is not told is not free ahead of one", x.plan(2, 200, 2), 5);
-        d.dueRow("so it is last", linesOf(x, 3), 2, 1);
+        d.dueRow("so it is last", Ask.planLines(x, 3), 2, 1);
     }
 
     private static void likePlans() {
         SpokenMenus x = new SpokenMenus();
         x.plan(3, 1, 2);
-        d.dueRow("all are like", linesOf(x, 7), 1, 6);
-        d.dueRow("the group", linesOf(x, 6), 2, 4);
+        d.dueRow("all are like", Ask.planLines(x, 7), 1, 6);
+        d.dueRow("the group", Ask.planLines(x, 6), 2, 4);
         x.plan(3, 1, 3);
-        d.dueRow("a group second is greater than one", linesOf(x, 7), 1, 2, 4);
+        d.dueRow("a group second is greater than one", Ask.planLines(x, 7), 1, 2, 4);
         x.wish(0, 5, 5);
         x.wish(1, 5, 5);
         x.wish(2, 5, 5);
         x.plan(3, 200, 3);
-        d.dueRow("like wishes", linesOf(x, 7), 1, 2, 4);
+        d.dueRow("like wishes", Ask.planLines(x, 7), 1, 2, 4);
         x = new SpokenMenus();
         x.wish(0, 2, 1);
         x.wish(1, 4, 2);
         d.due("of like ones", x.plan(2, 1, 2), 2 * 3 + 4 * 2);
-        d.dueRow("the lesser first", linesOf(x, 3), 1, 2);
+        d.dueRow("the lesser first", Ask.planLines(x, 3), 1, 2);
     }
 
     private static void planned() {
@@ -142,13 +130,13 @@ public final class PlansTest {
         for (int set : new int[] {1, 2, 4}) {
             d.due("a set of one " + set, x.planned(set, 0), NONE);
         }
-        d.dueRow("a set that the plan's menus do not have", linesOf(x, 3), 1, 2);
+        d.dueRow("a set that the plan's menus do not have", Ask.planLines(x, 3), 1, 2);
         x.plan(1, 1, 2);
         d.due("a plan for one", x.planned(1, 0), 1);
         d.due("it has one line", x.planned(1, 1), NONE);
         d.due("no other wish", x.planned(2, 0), BAD);
         x.plan(8, 1, 6);
-        d.due("a broad menu", linesOf(x, 255).length > 1 ? 1 : 0, 1);
+        d.due("a broad menu", Ask.planLines(x, 255).length > 1 ? 1 : 0, 1);
         d.due("no line 6", x.planned(255, 6), NONE);
     }
 
@@ -156,11 +144,11 @@ public final class PlansTest {
         SpokenMenus x = fourWishes();
         x.plan(4, 50, 3);
         x.wish(0, 1, 1000);
-        d.dueRow("wishes told later do not change it", linesOf(x, 15), 8, 4, 3);
+        d.dueRow("wishes told later do not change it", Ask.planLines(x, 15), 8, 4, 3);
         x.plan(4, 0, 2);
-        d.dueRow("nor does a BAD plan", linesOf(x, 15), 8, 4, 3);
+        d.dueRow("nor does a BAD plan", Ask.planLines(x, 15), 8, 4, 3);
         x.plan(4, 200, 4);
-        d.dueRow("a plan does", linesOf(x, 15), 1, 8, 4, 2);
+        d.dueRow("a plan does", Ask.planLines(x, 15), 1, 8, 4, 2);
         x.plan(2, 5, 2);
         d.due("and has its own wishes", x.planned(15, 0), BAD);
     }
