@@ -47,6 +47,8 @@ public final class CallsBoundsTest {
         trapsByNumbers();
         trapsByHour();
         trapsAreReached();
+        trapsBackThroughPlace0();
+        longestChains();
         d.end();
     }
 
@@ -568,5 +570,49 @@ public final class CallsBoundsTest {
         for (Call call : first) {
             d.dueRow(call + " leads to a desk", Ask.trapsOf(Ask.house(call, Call.of("leaf", 1, 0, -1), Call.of("desk", 0, 0)), 0));
         }
+    }
+
+    /** "from which none leads so to a DESK": the way may go back through PLACE 0. */
+    private static void trapsBackThroughPlace0() {
+        SpokenMenus x = Ask.house(Call.of("menu", 1, 1, 1), Call.of("line", 0, 1, 0, 0, 2), Call.of("leaf", 1, 0, 0),
+            Call.of("desk", 0, 0));
+        d.dueRow("a leaf that leads back", Ask.trapsOf(x, 0));
+        x.change(0, 0, 2, -1);
+        d.dueRow("back to where no desk is", Ask.trapsOf(x, 0), 0, 1);
+    }
+
+    /** All 40 PLACES in a chain: 0, 1, .. 39. */
+    private static SpokenMenus chainUp(Call last) {
+        SpokenMenus x = new SpokenMenus();
+        for (int p = 0; p < 39; p++) {
+            x.leaf(1, 0, p + 1);
+        }
+        last.on(x);
+        return x;
+    }
+
+    /** All 40 PLACES in a chain: 0, 39, 38, .. 1. */
+    private static SpokenMenus chainDown(Call last) {
+        SpokenMenus x = new SpokenMenus();
+        x.leaf(1, 0, 39);
+        last.on(x);
+        for (int p = 2; p < 40; p++) {
+            x.leaf(1, 0, p - 1);
+        }
+        return x;
+    }
+
+    /** "40 at most": a way, and what leads to a DESK, may need them all, whatever their numbers. */
+    private static void longestChains() {
+        Call desk = Call.of("desk", 1, 1);
+        d.due("the longest chain upward", chainUp(desk).fewest(0, 0, 0, 0), 40);
+        d.due("the longest chain downward", chainDown(desk).fewest(0, 0, 0, 0), 40);
+        d.dueRow("who knows, upward", Ask.rung(chainUp(desk), 0, 0, 40, 0, 1), SERVED, 40, 39, 40, 0);
+        d.dueRow("who knows, downward", Ask.rung(chainDown(desk), 0, 0, 40, 0, 1), SERVED, 40, 1, 40, 0);
+        d.due("no traps upward", chainUp(desk).trap(0, -1), 0);
+        d.due("no traps downward", chainDown(desk).trap(0, -1), 0);
+        Call leaf = Call.of("leaf", 1, 0, -1);
+        d.due("all are traps upward", chainUp(leaf).trap(0, -1), 40);
+        d.due("all are traps downward", chainDown(leaf).trap(0, -1), 40);
     }
 }

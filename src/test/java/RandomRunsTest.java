@@ -48,7 +48,8 @@ public final class RandomRunsTest {
             step(name, WISH);
         }
         step(name, PLAN);
-        for (int set = random.nextInt(4); set < 256; set += 1 + random.nextInt(9)) {
+        for (int i = 0; i < 60; i++) {
+            int set = random.nextInt(257);
             for (int j = 0; j < 7; j++) {
                 Call call = Call.of("planned", set, j);
                 d.due(name + ", " + call, call.on(x), call.on(m));
